@@ -139,7 +139,22 @@ public final class LabelHouse {
         if (what < 0 || what > 6) {
             throw new IllegalArgumentException();
         }
-        return what == 0 ? sheet.width : what == 1 ? sheet.height : sheet.measure(what);
+        switch (what) {
+            case 0:
+                return sheet.width;
+            case 1:
+                return sheet.height;
+            case 2:
+                return sheet.edgeColumn(1);
+            case 3:
+                return sheet.edgeRow(1);
+            case 4:
+                return sheet.edgeColumn(-1);
+            case 5:
+                return sheet.edgeRow(-1);
+            default:
+                return sheet.darkCount();
+        }
     }
 
     public long dots(int x, int y) {
@@ -498,10 +513,14 @@ public final class LabelHouse {
                 countOn(whole, (long) draft.value(i, STEP) * copy);
             }
             int size = draft.value(i, SIZE);
+            int at = count * BYTES;
             if (draft.value(i, KIND) == 7) {
-                packPairs(size);
+                for (int p = 0; p < size; p++) {
+                    int high = Tape.hexValue(counted[2 * p]);
+                    bytes[at + p] = (byte) (16 * high + Tape.hexValue(counted[2 * p + 1]));
+                }
             } else {
-                System.arraycopy(counted, draft.value(i, FROM), bytes, count * BYTES, size);
+                System.arraycopy(counted, draft.value(i, FROM), bytes, at, size);
             }
             count++;
         }
@@ -510,7 +529,7 @@ public final class LabelHouse {
             int first = whole;
             long value = 0;
             long range = 1;
-            while (first > 0 && whole - first < 9 && Tape.isDigit(counted[first - 1])) {
+            while (first > 0 && whole - first < 9 && counted[first - 1] >= '0' && counted[first - 1] <= '9') {
                 first--;
                 value += range * (counted[first] - '0');
                 range *= 10;
@@ -519,13 +538,6 @@ public final class LabelHouse {
             for (int p = whole - 1; p >= first; p--) {
                 counted[p] = (byte) ('0' + value % 10);
                 value /= 10;
-            }
-        }
-
-        private void packPairs(int size) {
-            for (int p = 0; p < size; p++) {
-                int high = Tape.hexValue(counted[2 * p]);
-                bytes[count * BYTES + p] = (byte) (16 * high + Tape.hexValue(counted[2 * p + 1]));
             }
         }
     }
@@ -1127,37 +1139,50 @@ public final class LabelHouse {
             }
         }
 
-        /** What told() tells of the dark dots. */
-        int measure(int what) {
+        int darkCount() {
             int dark = 0;
-            int leastX = width;
-            int leastY = NONE;
-            int mostX = NONE;
-            int mostY = NONE;
-            for (int y = 0; y < height; y++) {
+            for (int i = 0; i < height * ROW; i++) {
+                dark += Long.bitCount(words[i]);
+            }
+            return dark;
+        }
+
+        /** The first column (step 1) or the last one (step -1) that has a dark dot; NONE when there is none. */
+        int edgeColumn(int step) {
+            int w = step > 0 ? 0 : ROW - 1;
+            for (int i = 0; i < ROW; i++) {
+                long any = 0;
+                for (int y = 0; y < height; y++) {
+                    any |= words[y * ROW + w];
+                }
+                if (any != 0) {
+                    return 64 * w + edgeBit(any, step);
+                }
+                w += step;
+            }
+            return NONE;
+        }
+
+        private static int edgeBit(long bits, int step) {
+            int at = step > 0 ? 0 : 63;
+            for (int i = 0; i < 63 && (bits >>> at & 1) == 0; i++) {
+                at += step;
+            }
+            return at;
+        }
+
+        /** As edgeColumn(), of the rows. */
+        int edgeRow(int step) {
+            int y = step > 0 ? 0 : height - 1;
+            for (int i = 0; i < height; i++) {
                 for (int w = 0; w < ROW; w++) {
-                    long bits = words[y * ROW + w];
-                    if (bits != 0) {
-                        dark += Long.bitCount(bits);
-                        leastX = Math.min(leastX, 64 * w + Long.numberOfTrailingZeros(bits));
-                        mostX = Math.max(mostX, 64 * w + 63 - Long.numberOfLeadingZeros(bits));
-                        leastY = leastY == NONE ? y : leastY;
-                        mostY = y;
+                    if (words[y * ROW + w] != 0) {
+                        return y;
                     }
                 }
+                y += step;
             }
-            switch (what) {
-                case 2:
-                    return dark == 0 ? NONE : leastX;
-                case 3:
-                    return leastY;
-                case 4:
-                    return mostX;
-                case 5:
-                    return mostY;
-                default:
-                    return dark;
-            }
+            return NONE;
         }
 
         /** The runs from a dot on to the edge; answers how many they are. */
@@ -1283,25 +1308,21 @@ public final class LabelHouse {
             for (int n = 0; n < orders.value(k, Orders.SIZE); n++) {
                 int cell = (font * 256 + orders.byteAt(k, n)) * CELL;
                 for (int r = 0; r < sizes[3 * font + 1]; r++) {
-                    // only the lowest w bits are columns
-                    int bits = cells[cell + r] << (32 - w);
-                    drawCellRow(bits, pitch * n, q * r, p, q);
+                    drawCellRow(cells[cell + r], w, pitch * n, q * r, p, q);
                 }
             }
         }
 
-        /** Neighbours that are dark are struck together; the highest bit is the first column. */
-        private void drawCellRow(int bits, int i, int j, int p, int q) {
-            int column = 0;
-            int rest = bits;
-            while (rest != 0 && column < 32) {
-                int light = Integer.numberOfLeadingZeros(rest);
-                rest <<= light;
-                int dark = Integer.numberOfLeadingZeros(~rest);
-                strike(i + p * (column + light), j, p * dark, q);
-                column += light + dark;
-                // a shift by 32 would leave the bits as they are
-                rest = dark == 32 ? 0 : rest << dark;
+        /** Neighbours that are dark are struck together; the first column is the highest of the w bits. */
+        private void drawCellRow(int bits, int w, int i, int j, int p, int q) {
+            int dark = 0;
+            for (int column = 0; column <= w; column++) {
+                if (column < w && (bits >>> (w - 1 - column) & 1) != 0) {
+                    dark++;
+                } else if (dark > 0) {
+                    strike(i + p * (column - dark), j, p * dark, q);
+                    dark = 0;
+                }
             }
         }
 
@@ -1525,8 +1546,9 @@ public final class LabelHouse {
         private int symbolFor(int i, int set) {
             int sign = signs[i];
             if (set == 2) {
-                boolean pair = i + 1 < signCount && Tape.isDigit(sign) && Tape.isDigit(signs[i + 1]);
-                return pair ? 10 * (sign - '0') + signs[i + 1] - '0' : NONE;
+                int tens = sign - '0';
+                int ones = i + 1 < signCount ? signs[i + 1] - '0' : NONE;
+                return tens >= 0 && tens <= 9 && ones >= 0 && ones <= 9 ? 10 * tens + ones : NONE;
             }
             if (sign < 32) {
                 return set == 0 ? sign + 64 : NONE;
@@ -1582,8 +1604,10 @@ public final class LabelHouse {
         }
 
         private void addSymbol(int symbol) {
-            symbols[symbolCount] = symbol;
-            symbolCount++;
+            if (symbolCount < symbols.length) {
+                symbols[symbolCount] = symbol;
+                symbolCount++;
+            }
         }
 
         private int checkSymbol(int count) {
@@ -1790,6 +1814,8 @@ public final class LabelHouse {
     /** The modules of a square symbol. */
     private static final class Grid {
         static final int MOST = 177;
+        /** More than any penalty. */
+        static final int PENALTY_END = 1 << 30;
 
         final Segments segments = new Segments();
         int side;
@@ -1831,7 +1857,7 @@ public final class LabelHouse {
 
         private int bestMask(int atLevel) {
             int best = 0;
-            int least = Integer.MAX_VALUE;
+            int least = PENALTY_END;
             for (int k = 0; k < 8; k++) {
                 turnMask(k);
                 fixForm(atLevel, k);
@@ -1902,12 +1928,11 @@ public final class LabelHouse {
         }
 
         private static int formWord(int number) {
-            return (number << 10 | rest(number << 10, 1335, 15)) ^ 21522;
+            return (number << 10 | rest(number << 10, 1335, 10, 15)) ^ 21522;
         }
 
-        /** The rest of a polynomial of so many bits by another one. */
-        private static int rest(int word, int divisor, int bits) {
-            int degree = 31 - Integer.numberOfLeadingZeros(divisor);
+        /** The rest of a polynomial of so many bits by one of a degree. */
+        private static int rest(int word, int divisor, int degree, int bits) {
             int left = word;
             for (int i = bits - 1; i >= degree; i--) {
                 if ((left >> i & 1) != 0) {
@@ -1942,7 +1967,7 @@ public final class LabelHouse {
         }
 
         private void fixVersion() {
-            int word = version << 12 | rest(version << 12, 7973, 18);
+            int word = version << 12 | rest(version << 12, 7973, 12, 18);
             for (int i = 0; i < 18; i++) {
                 boolean dark = (word >> i & 1) != 0;
                 fix(side - 11 + i % 3, i / 3, dark);
@@ -2590,6 +2615,9 @@ public final class LabelHouse {
     private static final class Finder {
         static final int PLACES_MOST = 300;
         static final int SUMS = Sheet.MOST + 1;
+        /** The corners: above right, above left, below left, below right; so quarter q has none at 3 - q. */
+        static final int[] RIGHT = {1, 0, 0, 1};
+        static final int[] DOWN = {0, 0, 1, 1};
 
         int leaders;
         private final Sheet sheet;
@@ -2600,6 +2628,8 @@ public final class LabelHouse {
         private final long[] keys = new long[PLACES_MOST];
         private final int[] wrongs = new int[PLACES_MOST];
         private final boolean[] leads = new boolean[PLACES_MOST];
+        /** The wrong dots of the four corners of a place. */
+        private final int[] corners = new int[4];
         private int places;
         private int m;
         private int limit;
@@ -2668,11 +2698,11 @@ public final class LabelHouse {
             return 33 * m * m - whole + 2 * middle - 2 * core;
         }
 
-        /** Takes each corner as that of the module (3, 3); false when there are too many places. */
+        /** Looks from each corner with few wrong dots; false when there are too many places. */
         private boolean lookAtAll(int room) {
             for (int y = 0; y + 7 * m <= sheet.height; y++) {
                 for (int x = 0; x + 7 * m <= sheet.width; x++) {
-                    if (cornerWrong[y * Sheet.MOST + x] <= limit && !lookFrom(x, y, room)) {
+                    if (cornerWrong[y * Sheet.MOST + x] <= limit / 3 && !lookFrom(x, y, room)) {
                         return false;
                     }
                 }
@@ -2682,41 +2712,68 @@ public final class LabelHouse {
 
         private boolean lookFrom(int cornerX, int cornerY, int room) {
             for (int v = 1; v <= 40 && (17 + 4 * v) * m <= room; v++) {
-                int side = (17 + 4 * v) * m;
-                int span = side - 7 * m;
-                for (int q = 0; q < 4; q++) {
-                    int x = q == 1 || q == 2 ? cornerX - span : cornerX;
-                    int y = q == 2 || q == 3 ? cornerY - span : cornerY;
-                    boolean on = x >= 0 && y >= 0 && x + side <= sheet.width && y + side <= sheet.height;
-                    int wrong = on ? wrongAt(x, y, 17 + 4 * v, q) : limit + 1;
-                    if (wrong <= limit) {
-                        if (places == PLACES_MOST) {
-                            return false;
-                        }
-                        add(x, y, v, q, wrong);
+                int far = (10 + 4 * v) * m;
+                for (int c = 0; c < 4; c++) {
+                    if (!lookAt(cornerX - far * RIGHT[c], cornerY - far * DOWN[c], v, c)) {
+                        return false;
                     }
                 }
             }
             return true;
         }
 
-        /** The wrong dots of a place; when they are more than the limit, not all are counted. */
-        private int wrongAt(int x, int y, int side, int q) {
+        /** Looks at the places there, seen from corner c. */
+        private boolean lookAt(int x, int y, int v, int c) {
+            int side = 17 + 4 * v;
+            if (x < 0 || y < 0 || x + side * m > sheet.width || y + side * m > sheet.height) {
+                return true;
+            }
             int far = (side - 7) * m;
-            int wrong = 0;
-            for (int corner = 0; corner < 4 && wrong <= limit; corner++) {
-                if (corner != 3 - q) {
-                    wrong += cornerWrong[(y + far * downOf(corner)) * Sheet.MOST + x + far * rightOf(corner)];
+            int sum = 0;
+            int worst = 0;
+            for (int i = 0; i < 4; i++) {
+                corners[i] = cornerWrong[(y + far * DOWN[i]) * Sheet.MOST + x + far * RIGHT[i]];
+                sum += corners[i];
+                worst = Math.max(worst, corners[i]);
+            }
+            if (sum - worst > limit) {
+                return true;
+            }
+            for (int q = 0; q < 4; q++) {
+                int wrong = sum - corners[3 - q];
+                if (wrong <= limit && firstFew(q) == c) {
+                    wrong = wrongAt(x, y, side, q, wrong);
+                    if (wrong <= limit && !add(x, y, v, q, wrong)) {
+                        return false;
+                    }
                 }
             }
-            for (int corner = 0; corner < 4 && wrong <= limit; corner++) {
-                if (corner != 3 - q) {
-                    wrong += edgeWrong(x, y, far, corner);
+            return true;
+        }
+
+        /** One of its corners has no more than a third of the wrong dots: a place is seen from the first such one. */
+        private int firstFew(int q) {
+            for (int c = 0; c < 4; c++) {
+                if (c != 3 - q && corners[c] <= limit / 3) {
+                    return c;
                 }
             }
-            if (wrong <= limit) {
-                wrong += m * m - darkIn(x + m * loneX(side, q), y + m * loneY(side, q), m);
+            return NONE;
+        }
+
+        /** Adds the other wrong dots of a place to those of its corners, no further than beyond the limit. */
+        private int wrongAt(int x, int y, int side, int q, int ofCorners) {
+            int far = (side - 7) * m;
+            int wrong = ofCorners;
+            for (int c = 0; c < 4; c++) {
+                if (c != 3 - q) {
+                    int cornerX = x + far * RIGHT[c];
+                    int cornerY = y + far * DOWN[c];
+                    // the light blocks along the inner edges
+                    wrong += darkIn(cornerX - m * RIGHT[c], cornerY - m * DOWN[c], 8 * m) - darkIn(cornerX, cornerY, 7 * m);
+                }
             }
+            wrong += m * m - darkIn(x + m * loneX(side, q), y + m * loneY(side, q), m);
             int row = y + (q < 2 ? 6 * m : far);
             int column = x + (q == 0 || q == 3 ? 6 * m : far);
             for (int i = 8; i <= side - 9 && wrong <= limit; i++) {
@@ -2724,23 +2781,6 @@ public final class LabelHouse {
                 wrong += i % 2 == 0 ? 2 * m * m - dark : dark;
             }
             return wrong;
-        }
-
-        // the corners are numbered so that quarter q has none at 3 - q: above right, above left, below left, below right
-        private static int rightOf(int corner) {
-            return corner == 0 || corner == 3 ? 1 : 0;
-        }
-
-        private static int downOf(int corner) {
-            return corner >= 2 ? 1 : 0;
-        }
-
-        /** The dark dots of the light blocks on the inner edges of a corner. */
-        private int edgeWrong(int x, int y, int far, int corner) {
-            int cornerX = x + far * rightOf(corner);
-            int cornerY = y + far * downOf(corner);
-            int around = darkIn(cornerX - m * rightOf(corner), cornerY - m * downOf(corner), 8 * m);
-            return around - darkIn(cornerX, cornerY, 7 * m);
         }
 
         /** The block of the module (8, side - 8). */
@@ -2752,8 +2792,11 @@ public final class LabelHouse {
             return q == 0 ? side - 8 : q == 1 ? 8 : q == 2 ? 7 : side - 9;
         }
 
-        /** Keeps a place so that all stay in their order. */
-        private void add(int x, int y, int v, int q, int wrong) {
+        /** Keeps a place so that all stay in their order; false when there is no more room. */
+        private boolean add(int x, int y, int v, int q, int wrong) {
+            if (places == PLACES_MOST) {
+                return false;
+            }
             long key = ((((long) y * 512 + x) * 32 + m) * 64 + v) * 4 + q;
             int at = places;
             while (at > 0 && keys[at - 1] > key) {
@@ -2764,6 +2807,7 @@ public final class LabelHouse {
             keys[at] = key;
             wrongs[at] = wrong;
             places++;
+            return true;
         }
 
         /** What found() tells of a place. */
