@@ -20,6 +20,13 @@ final class Check {
         }
     }
 
+    void due(String what, String got, String want) {
+        if (!got.equals(want)) {
+            wrong++;
+            System.out.println(name + ": " + what + " answered " + got + ", due is " + want);
+        }
+    }
+
     void isTrue(String what, boolean holds) {
         if (!holds) {
             wrong++;
@@ -39,6 +46,14 @@ final class Check {
                 System.out.println(name + ": " + what + " threw " + e + ", due is " + due.getSimpleName());
             }
         }
+    }
+
+    void outOfBounds(String what, Call call) {
+        thrown(what, IndexOutOfBoundsException.class, call);
+    }
+
+    void badArgument(String what, Call call) {
+        thrown(what, IllegalArgumentException.class, call);
     }
 
     void end() {
