@@ -146,7 +146,7 @@ public final class BarsTest {
             dueRow(text);
         }
         Random random = new Random(7);
-        String[] signs = {"0123456789", "abcxyz~\177", "\0\1\2\31\37", "ABC _^", "0123456789\200", "01aA\1\200"};
+        String[] signs = {"0123456789", "/0123456789:", "\0_`a\37 ", "abcxyz~\177", "\0\1\2\31\37", "ABC _^", "0123456789\200", "01aA\1\200"};
         for (int i = 0; i < 120; i++) {
             StringBuilder text = new StringBuilder();
             for (int part = 0; part <= random.nextInt(4); part++) {
@@ -174,7 +174,46 @@ public final class BarsTest {
             CHECK.due("signs", Houses.got(other, 12), first + "13579864200");
             CHECK.due("from the back", other.reading(5), 1);
         }
+        wrongFigures();
         CHECK.end();
+    }
+
+    /** Strips of 59 widths: the four of each figure as they are given, behind them what is due. */
+    private static void wrongFigures() {
+        // 5 901234 123457: of the first six the second, the third and the sixth are turned
+        String[] right = {"3112", "1123", "1222", "2122", "1411", "2311", "2221", "2122", "1411", "1132", "1231", "1312"};
+        CHECK.due("as it should be", figureStrip(right, 1, 0).bars(0, 0, false), 13);
+        String[] check = right.clone();
+        check[11] = "1213";
+        CHECK.due("a wrong check figure", figureStrip(check, 1, 0).bars(0, 0, false), -1);
+        String[] turned = right.clone();
+        turned[0] = "2113";
+        CHECK.due("turned as by no first figure", figureStrip(turned, 1, 0).bars(0, 0, false), -1);
+        String[] late = right.clone();
+        late[11] = "2131";
+        CHECK.due("a turned one of the last six", figureStrip(late, 1, 0).bars(0, 0, false), -1);
+        String[] none = right.clone();
+        none[3] = "2311";
+        none[4] = "2221";
+        CHECK.due("other figures", figureStrip(none, 1, 0).bars(0, 0, false), -1);
+        // 3 of 191 is 1.49 of 95 modules; 6 of 386 is 1.48, but 7 of 387 is 1.72
+        CHECK.due("a guard that is a little too wide", figureStrip(right, 2, 1).bars(0, 0, false), 13);
+        CHECK.due("wider", figureStrip(right, 4, 2).bars(0, 0, false), 13);
+        CHECK.due("too wide", figureStrip(right, 4, 3).bars(0, 0, false), -1);
+    }
+
+    private static LabelHouse figureStrip(String[] figures, int module, int more) {
+        StringBuilder text = new StringBuilder("111");
+        for (int i = 0; i < 12; i++) {
+            text.append(i == 6 ? "11111" : "").append(figures[i]);
+        }
+        text.append("111");
+        int[] widths = new int[text.length()];
+        for (int i = 0; i < widths.length; i++) {
+            widths[i] = module * (text.charAt(i) - '0');
+        }
+        widths[28] += more;
+        return withStrip(widths);
     }
 
     private static void bars() {
@@ -247,6 +286,8 @@ public final class BarsTest {
         dueSymbols(3, "\200\200\200", 105, 102, 100, 102, 101, 102);
         dueSymbols(2, "`A", 103, 98, 64, 33);
         dueSymbols(2, "\0a", 104, 98, 64, 65);
+        dueSymbols(1, "`", 103, 98, 64);
+        dueSymbols(1, "\37", 104, 98, 95);
         dueSymbols(-1, "", 103, 98);
         dueSymbols(-1, "", 103, 98, 102, 0);
         dueSymbols(-1, "", 103, 98, 98, 0);

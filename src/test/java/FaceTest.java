@@ -87,19 +87,20 @@ public final class FaceTest {
 
     /** Cells are 8 times 8 dots, none dark, without a gap. */
     private static void newFonts(Check check) {
-        LabelHouse house = new LabelHouse();
-        Houses.read(house, "^L40,40^T0^XAB^;^T3^XAB^;^E");
-        for (int code = 65; code < 67; code++) {
+        for (int font = 0; font < 4; font++) {
+            int each = font;
+            LabelHouse house = new LabelHouse();
+            Houses.read(house, "^L40,40^T" + font + "^XAB^;^E");
             house.print(0);
             check.due("dots of cells", house.told(6), 0);
+            house.cell(font, 66, 7, 255);
+            house.print(0);
+            check.due("the gap is 0 and w 8", Houses.row(house, 7), "........########" + ".".repeat(24));
+            check.outOfBounds("row 8 of a cell", () -> {
+                house.cell(each, 66, 8, 0);
+                return 0;
+            });
         }
-        house.cell(3, 66, 7, 255);
-        house.print(0);
-        check.due("the gap is 0 and w 8", Houses.row(house, 7), "........########" + ".".repeat(24));
-        check.outOfBounds("cell(3, 66, 8, 0)", () -> {
-            house.cell(3, 66, 8, 0);
-            return 0;
-        });
     }
 
     /** One of each call that does much; it is run again and again until nothing is loaded any more. */

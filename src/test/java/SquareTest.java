@@ -11,6 +11,7 @@ public final class SquareTest {
         masks();
         scan();
         limits();
+        corners();
         leaders();
         found();
         decode();
@@ -201,8 +202,8 @@ public final class SquareTest {
     private static void masks() {
         CHECK.begin("promise 12: masks of squares");
         Random random = new Random(9);
-        for (int i = 0; i < 12; i++) {
-            String data = Houses.some(random, "abcdef 0123456789ABC", 1 + random.nextInt(12 * i + 3));
+        for (int i = 0; i < 60; i++) {
+            String data = Houses.some(random, "abcdef 0123456789ABC", 1 + random.nextInt(2 * i + 3));
             int level = i % 4;
             LabelHouse free = withSymbol("1," + level, data);
             int side = free.told(4) - 4;
@@ -289,6 +290,31 @@ public final class SquareTest {
             house.spoil(20, 20, 1);
             house.spoil(24, 24, 1);
             CHECK.due("other dots are no marks", house.scan(1, 1, 0), 1);
+        }
+        CHECK.end();
+    }
+
+    /** Most wrong dots in one corner: the place must be seen from the others. */
+    private static void corners() {
+        CHECK.begin("promise 19: corners with many wrong dots");
+        int[][] corners = {{0, 0}, {14, 0}, {14, 14}, {0, 14}};
+        for (int quarter = 0; quarter < 4; quarter++) {
+            for (int[] corner : corners) {
+                LabelHouse house = Houses.printed("^L30,30^O4,4^Q1,0,2^Xcorner^;^E");
+                house.turn(quarter);
+                int x = house.told(2) + corner[0];
+                int y = house.told(3) + corner[1];
+                // the corner that has no mark of its own is not looked at
+                int skipped = (quarter + 2) % 4;
+                boolean marked = corner != corners[skipped];
+                for (int row = 0; row < 7; row++) {
+                    house.spoil(x, y + row, 0b0101010);
+                }
+                CHECK.due("limit 20", house.scan(1, 1, 20), marked ? 0 : 1);
+                CHECK.due("limit 21", house.scan(1, 1, 21), 1);
+                CHECK.due("wrong dots", house.found(0, 5), marked ? 21 : 0);
+                CHECK.due("quarter", house.found(0, 4), quarter);
+            }
         }
         CHECK.end();
     }
@@ -390,6 +416,24 @@ public final class SquareTest {
                 CHECK.due("put right", house.reading(3), right ? wrong : -1);
                 CHECK.due("the fault", house.reading(6), right ? 0 : 2);
                 CHECK.due("bytes", house.got(0), right ? 0x636261 : 0);
+            }
+        }
+        // versions 2, 3 and 4 of level 0 have one block, too
+        int[] sizes = {20, 40, 70};
+        int[] mostOf = {4, 7, 10};
+        for (int i = 0; i < 3; i++) {
+            LabelHouse house = Houses.printed("^L40,40^Q1,0,3^X" + "a".repeat(sizes[i]) + "^;^E");
+            house.scan(1, 1, 0);
+            CHECK.due("version", house.found(0, 3), i + 2);
+            int side = 25 + 4 * i;
+            for (int wrong = 1; wrong <= mostOf[i] + 1; wrong++) {
+                // a codeword has four rows of the last pair of columns, or of the last but one
+                int inPair = (side - 9) / 4;
+                int x = side - 1 - 2 * ((wrong - 1) / inPair);
+                house.spoil(x, side - 1 - 4 * ((wrong - 1) % inPair), 1);
+                boolean right = wrong <= mostOf[i];
+                CHECK.due("version " + (i + 2) + " with " + wrong, house.decode(0), right ? sizes[i] : -1);
+                CHECK.due("put right", house.reading(3), right ? wrong : -1);
             }
         }
         CHECK.end();
