@@ -291,6 +291,7 @@ public final class BarsTest {
         dueSymbols(-1, "", 103, 98);
         dueSymbols(-1, "", 103, 98, 102, 0);
         dueSymbols(-1, "", 103, 98, 98, 0);
+        dueSymbols(-1, "", 103, 98, 96);
         dueSymbols(-1, "", 103, 96);
         dueSymbols(-1, "", 104, 97);
         dueSymbols(-1, "", 104, 100);

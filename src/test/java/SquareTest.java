@@ -315,8 +315,29 @@ public final class SquareTest {
                 CHECK.due("wrong dots", house.found(0, 5), marked ? 21 : 0);
                 CHECK.due("quarter", house.found(0, 4), quarter);
             }
+            twoCorners(quarter, corners);
         }
         CHECK.end();
+    }
+
+    /** Two of the three corners have more than a third of the wrong dots. */
+    private static void twoCorners(int quarter, int[][] corners) {
+        for (int right = 0; right < 4; right++) {
+            LabelHouse house = Houses.printed("^L30,30^O4,4^Q1,0,2^Xcorner^;^E");
+            house.turn(quarter);
+            int x = house.told(2);
+            int y = house.told(3);
+            int skipped = (quarter + 2) % 4;
+            for (int c = 0; c < 4; c++) {
+                for (int row = 0; row < 5; row++) {
+                    house.spoil(x + corners[c][0], y + corners[c][1] + row + 1, c == right || c == skipped ? 0 : 0b10100);
+                }
+            }
+            int wrong = right == skipped ? 30 : 20;
+            CHECK.due("limit " + (wrong - 1), house.scan(1, 1, wrong - 1), 0);
+            CHECK.due("limit " + wrong, house.scan(1, 1, wrong), 1);
+            CHECK.due("wrong dots", house.found(0, 5), wrong);
+        }
     }
 
     private static void leaders() {
@@ -334,6 +355,14 @@ public final class SquareTest {
         LabelHouse light = Houses.printed("^L22,21^E");
         CHECK.due("scan(1, 1, 106)", light.scan(1, 1, 106), 1);
         CHECK.due("x", light.found(0, 0), 0);
+        // a small symbol in the midst of a large one
+        LabelHouse within = Houses.printed("^L100,100^O2,2^Q2,0,0^X" + "a".repeat(100)
+            + "^;^O43,47^F23,23,99^;^R^O43,47^F23,23,99^;^O44,48^Q1,0,0^Xb^;^E");
+        CHECK.due("scan(1, 2, 0)", within.scan(1, 2, 0), 1);
+        CHECK.due("the first one leads", within.found(0, 2), 2);
+        within.spoil(2, 2, 1);
+        CHECK.due("scan(1, 2, 1)", within.scan(1, 2, 1), 1);
+        CHECK.due("the one with fewer wrong dots leads", within.found(0, 2), 1);
         LabelHouse beside = Houses.printed("^L42,21^O0^Q1^Xa^;^O21^Q1^Xb^;^E");
         CHECK.due("side by side they have no dot in common", beside.scan(1, 1, 0), 2);
         CHECK.end();
