@@ -1365,7 +1365,7 @@ public final class LabelHouse {
                 if (py >= 0 && py < sheet.height) {
                     long v = 2L * r - (h - 1);
                     int outer = indent(w, w, h, v);
-                    // where the inner one has no dot the row is whole: its hole is as if in the middle
+                    // a row in which the inner one has no dot has no hole
                     int inner = hollow ? indent(w, w - 2 * t, h - 2 * t, v) : NONE;
                     if (inner == NONE && outer != NONE) {
                         sheet.box(x + outer, py, x + w - 1 - outer, py);
