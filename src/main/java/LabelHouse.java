@@ -2702,6 +2702,7 @@ public final class LabelHouse {
         private boolean lookAtAll(int room) {
             for (int y = 0; y + 7 * m <= sheet.height; y++) {
                 for (int x = 0; x + 7 * m <= sheet.width; x++) {
+                    // of the three corners of a place one has no more than a third of its wrong dots
                     if (cornerWrong[y * Sheet.MOST + x] <= limit / 3 && !lookFrom(x, y, room)) {
                         return false;
                     }
@@ -2722,7 +2723,7 @@ public final class LabelHouse {
             return true;
         }
 
-        /** Looks at the places there, seen from corner c. */
+        /** Looks at the places there, unless they were seen from a corner before c. */
         private boolean lookAt(int x, int y, int v, int c) {
             int side = 17 + 4 * v;
             if (x < 0 || y < 0 || x + side * m > sheet.width || y + side * m > sheet.height) {
@@ -2730,55 +2731,42 @@ public final class LabelHouse {
             }
             int far = (side - 7) * m;
             int sum = 0;
-            int worst = 0;
             for (int i = 0; i < 4; i++) {
                 corners[i] = cornerWrong[(y + far * DOWN[i]) * Sheet.MOST + x + far * RIGHT[i]];
                 sum += corners[i];
-                worst = Math.max(worst, corners[i]);
-            }
-            if (sum - worst > limit) {
-                return true;
+                if (i < c && corners[i] <= limit / 3) {
+                    return true;
+                }
             }
             for (int q = 0; q < 4; q++) {
                 int wrong = sum - corners[3 - q];
-                if (wrong <= limit && firstFew(q) == c) {
+                if (wrong <= limit) {
                     wrong = wrongAt(x, y, side, q, wrong);
-                    if (wrong <= limit && !add(x, y, v, q, wrong)) {
-                        return false;
-                    }
+                }
+                if (wrong <= limit && !add(x, y, v, q, wrong)) {
+                    return false;
                 }
             }
             return true;
         }
 
-        /** One of its corners has no more than a third of the wrong dots: a place is seen from the first such one. */
-        private int firstFew(int q) {
-            for (int c = 0; c < 4; c++) {
-                if (c != 3 - q && corners[c] <= limit / 3) {
-                    return c;
-                }
-            }
-            return NONE;
-        }
-
         /** Adds the other wrong dots of a place to those of its corners, no further than beyond the limit. */
         private int wrongAt(int x, int y, int side, int q, int ofCorners) {
             int far = (side - 7) * m;
-            int wrong = ofCorners;
-            for (int c = 0; c < 4; c++) {
+            int wrong = ofCorners + m * m - darkIn(x + m * loneX(side, q), y + m * loneY(side, q), m);
+            int row = y + (q < 2 ? 6 * m : far);
+            int column = x + (q == 0 || q == 3 ? 6 * m : far);
+            for (int i = 8; i <= side - 9 && wrong <= limit; i++) {
+                int dark = darkIn(x + i * m, row, m) + darkIn(column, y + i * m, m);
+                wrong += i % 2 == 0 ? 2 * m * m - dark : dark;
+            }
+            for (int c = 0; c < 4 && wrong <= limit; c++) {
                 if (c != 3 - q) {
                     int cornerX = x + far * RIGHT[c];
                     int cornerY = y + far * DOWN[c];
                     // the light blocks along the inner edges
                     wrong += darkIn(cornerX - m * RIGHT[c], cornerY - m * DOWN[c], 8 * m) - darkIn(cornerX, cornerY, 7 * m);
                 }
-            }
-            wrong += m * m - darkIn(x + m * loneX(side, q), y + m * loneY(side, q), m);
-            int row = y + (q < 2 ? 6 * m : far);
-            int column = x + (q == 0 || q == 3 ? 6 * m : far);
-            for (int i = 8; i <= side - 9 && wrong <= limit; i++) {
-                int dark = darkIn(x + i * m, row, m) + darkIn(column, y + i * m, m);
-                wrong += i % 2 == 0 ? 2 * m * m - dark : dark;
             }
             return wrong;
         }
