@@ -8,6 +8,18 @@ final class Check {
     private int wrong;
     private boolean anyWrong;
 
+    /** One test: what its body throws is a fault of this test alone. */
+    void test(String newName, Runnable body) {
+        begin(newName);
+        try {
+            body.run();
+        } catch (RuntimeException e) {
+            wrong++;
+            System.out.println(name + ": threw " + e + " at " + e.getStackTrace()[0]);
+        }
+        end();
+    }
+
     void begin(String newName) {
         name = newName;
         wrong = 0;
