@@ -1,4 +1,6 @@
+import java.util.ArrayList;
 import java.util.Arrays;
+import java.util.List;
 
 /** Codes of bars, promises 12 and 22 to 24, sentence by sentence: rows, thirteen figures, and the strips that are read. */
 public final class EdgeBarsTest {
@@ -153,16 +155,52 @@ public final class EdgeBarsTest {
             dueRow("00", 105, 0);
             dueRow("//", 103, 15, 15);
             dueRow("::", 103, 26, 26);
+            for (String beside : new String[] {"/", ":"}) {
+                int symbol = beside.charAt(0) - 32;
+                dueRow("1" + beside, 103, 17, symbol);
+                dueRow(beside + "1", 103, symbol, 17);
+                dueRow("12" + beside + "1", 103, 17, 18, symbol, 17);
+                dueRow("123" + beside, 103, 17, 18, 19, symbol);
+            }
+        });
+        CHECK.test("bars: from each set to each other one", () -> {
+            dueRow("\0\0" + "1234", 103, 64, 64, 99, 12, 34);
+            dueRow("aa1234", 104, 65, 65, 99, 12, 34);
+            dueRow("1234aa", 105, 12, 34, 100, 65, 65);
+            dueRow("1234\0\0", 105, 12, 34, 101, 64, 64);
+            dueRow("\0\0\0aaa", 103, 64, 64, 64, 100, 65, 65, 65);
+            dueRow("aaa\0\0\0", 104, 65, 65, 65, 101, 64, 64, 64);
+            dueRow("aa1234\0\0" + "1234aa", 104, 65, 65, 99, 12, 34, 101, 64, 64, 99, 12, 34, 100, 65, 65);
+            // 105 12 101 64 102 19 20 and 103 17 18 64 102 19 20 are as long
+            dueRow("12\0\200" + "34", 103, 17, 18, 64, 99, 102, 34);
         });
         CHECK.test("bars: 64 signs have their row", () -> {
             int[] digits = new int[33];
             Arrays.fill(digits, 12);
             digits[0] = 105;
             dueRow("12".repeat(32), digits);
-            // 32 changes are more than 512 dots, so just the beginning is seen
-            LabelHouse house = Houses.printed("^L512,1^B1,1^X" + "_00a".repeat(32) + "^;^E");
-            CHECK.due("the first bar", house.run(0, 0, 0, false), 2);
-            CHECK.due("the last dot", house.told(4) > 505 ? 1 : 0, 1);
+            // a row with many changes is wider than a sheet, so it is drawn part by part
+            String text = ("\0\0\0aaa".repeat(11)).substring(0, 64);
+            List<Integer> symbols = new ArrayList<>();
+            symbols.add(103);
+            for (int i = 0; i < 64; i++) {
+                boolean changes = i > 0 && i % 3 == 0;
+                if (changes) {
+                    // the last sign is alone
+                    symbols.add(i == 63 ? 98 : i % 6 == 0 ? 101 : 100);
+                }
+                symbols.add(i % 6 < 3 ? 64 : 65);
+            }
+            String row = row(symbols.stream().mapToInt(Integer::intValue).toArray());
+            StringBuilder due = new StringBuilder();
+            for (int i = 0; i < row.length(); i++) {
+                due.append((i % 2 == 0 ? "#" : ".").repeat(row.charAt(i) - '0'));
+            }
+            StringBuilder seen = new StringBuilder();
+            for (int x = 0; x < due.length(); x += 512) {
+                seen.append(Houses.row(Houses.printed("^L512,1^O-" + x + "^B1,1^X" + Houses.escaped(text) + "^;^E"), 0));
+            }
+            CHECK.due("the dots of 64 signs", seen.toString(), due + ".".repeat(seen.length() - due.length()));
         });
     }
 
@@ -415,10 +453,13 @@ public final class EdgeBarsTest {
                     sum += i * (i % 2 == 0 ? 1 : 3);
                 }
                 int first = Arrays.asList(FIRSTS).indexOf(which.toString());
-                sum += Math.max(first, 0);
-                int check = (10 - sum % 10) % 10;
-                row.append("11111").append(FIGURES[0].repeat(5)).append(FIGURES[check]).append("111");
-                due("turned " + which, widths(row.toString(), 1), first < 0 ? "NONE" : "2 front: " + first + "12345600000" + check);
+                int right = (20 - (sum + first) % 10) % 10;
+                row.append("11111").append(FIGURES[0].repeat(5));
+                // without a first figure no check figure is right
+                for (int check = 0; check < 10; check++) {
+                    String want = first < 0 || check != right ? "NONE" : "2 front: " + first + "12345600000" + check;
+                    due("turned " + which, widths(row + FIGURES[check] + "111", 1), want);
+                }
             }
         });
         CHECK.test("promise 22: the check figure must be right", () -> {
@@ -476,6 +517,15 @@ public final class EdgeBarsTest {
             CHECK.due("its last bar cut by one dot of six", withStrip(x + 1, widths(row, 3)).bars(x + 1, 0, false), 2);
             CHECK.due("by two", withStrip(x + 2, widths(row, 3)).bars(x + 2, 0, false), NONE);
             CHECK.due("by all", withStrip(x + 6, widths(row, 3)).bars(x + 6, 0, false), NONE);
+            LabelHouse shorter = withStrip(0, widths(row, 3));
+            int[] first = widths(row, 3);
+            int at = 0;
+            for (int i = 0; i < first.length - 1; i++) {
+                shorter.spoil(at, 1, i % 2 == 0 ? (1L << first[i]) - 1 : 0);
+                at += first[i];
+            }
+            CHECK.due("all of it", shorter.bars(0, 0, false), 2);
+            CHECK.due("without its last bar, behind a reading of all of it", shorter.bars(0, 1, false), NONE);
             int[] more = Arrays.copyOf(widths(row, 1), row.length() + 5);
             Arrays.fill(more, row.length(), more.length, 7);
             due("other dots behind it", more, "1 front: AB");

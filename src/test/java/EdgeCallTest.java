@@ -151,6 +151,24 @@ public final class EdgeCallTest {
             house.print(0);
             CHECK.due("dark dots", house.told(6), 0);
         });
+        CHECK.test("promise 4: the first and the last cells of the fonts beside it stay as they are", () -> {
+            for (int font = 0; font < 4; font++) {
+                LabelHouse house = new LabelHouse();
+                for (int f = 0; f < 4; f++) {
+                    house.font(f, 8, 32, 0);
+                    house.cell(f, 0, 0, 255);
+                    house.cell(f, 0, 31, 255);
+                    house.cell(f, 255, 0, 255);
+                    house.cell(f, 255, 31, 255);
+                }
+                house.font(font, 8, 32, 0);
+                Houses.read(house, "^L64,32^X_00_FF^T^;^O16^X_00_FF^T1^;^O32^X_00_FF^T2^;^O48^X_00_FF^T3^;^E");
+                house.print(0);
+                for (int f = 0; f < 4; f++) {
+                    CHECK.due("drawn(" + f + ")", house.drawn(f), f == font ? 0 : 32);
+                }
+            }
+        });
         CHECK.test("promise 4: the other fonts, and what is drawn already, stay as they are", () -> {
             LabelHouse house = new LabelHouse();
             for (int f = 0; f < 4; f++) {

@@ -57,6 +57,8 @@ public final class EdgeFieldTest {
                 "0 0 0 0 0 0 1 1 a|0 0 0 2 0 2 3 4 b|1 0 0 0 0 2 50 0 c|0 0 53 0 0 3 4 5 c"));
         CHECK.test("terms: R once more is still turned over", () ->
             due("^R^R^F^;^R^F^R^R^;", "4 0 0 0 2 1 1 1 |4 0 0 0 2 1 1 1 "));
+        CHECK.test("terms: R, O, # and a kind leave the data of X and V as it is", () ->
+            due("^K1,a1^K2,b2^V1^R^O1,1^#0^T^;^Xc3^K2,d4^R^O1,1^#0^T^;", "0 1 1 0 2 0 1 1 a1|0 1 1 0 2 0 1 1 c3"));
         CHECK.test("terms: a later O counts in place of an earlier one, also a left out one", () ->
             due("^O1,2^O3,4^F^O5,6^;^O1,2^O^F^;", "4 5 6 0 0 1 1 1 |4 0 0 0 0 1 1 1 "));
         CHECK.test("terms: a later X or V counts in place of an earlier one, one for the other", () ->

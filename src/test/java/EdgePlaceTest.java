@@ -106,6 +106,38 @@ public final class EdgePlaceTest {
             CHECK.due("512 times 20", light(512, 20).scan(1, 16, 500), 0);
             CHECK.due("1 times 1", light(1, 1).scan(1, 16, 500), 0);
         });
+        CHECK.test("places: a symbol that the sheet cuts off is none, though a larger sheet had it whole", () -> {
+            for (String size : new String[] {"40,60", "60,40", "39,60", "60,39"}) {
+                LabelHouse house = new LabelHouse();
+                Houses.read(house, "^L60,60^O20,20^Q1,0,0^Xa^;^E^L" + size + "^O20,20^Q1,0,0^Xa^;^E");
+                house.print(0);
+                CHECK.due("scan(1, 1, 5)", house.scan(1, 1, 5), 1);
+                house.print(1);
+                CHECK.due("scan(1, 1, 5) of " + size, house.scan(1, 1, 5), 0);
+            }
+        });
+        CHECK.test("places: versions are 1 .. 40, so one with the marks of a version 41 is none", () -> {
+            for (int version : new int[] {40, 41, 42}) {
+                int side = 17 + 4 * version;
+                LabelHouse house = light(side, side);
+                boolean[][] dark = new boolean[side][side];
+                for (int[] mark : Places.marks(version)) {
+                    dark[mark[1]][mark[0]] = mark[2] == 1;
+                }
+                for (int y = 0; y < side; y++) {
+                    for (int x = 0; x < side; x += 64) {
+                        long bits = 0;
+                        for (int i = 0; i < 64 && x + i < side; i++) {
+                            bits |= dark[y][x + i] ? 1L << i : 0;
+                        }
+                        if (bits != 0) {
+                            house.spoil(x, y, bits);
+                        }
+                    }
+                }
+                CHECK.due("version " + version, Places.told(house, 1, 1, 0), version == 40 ? "0 0 1 40 0 0|" : "");
+            }
+        });
         CHECK.test("places: at each quarter, over all of the sheet", () -> {
             for (int quarter = 0; quarter < 4; quarter++) {
                 for (int[] at : new int[][] {{0, 0}, {15, 0}, {0, 5}, {15, 5}, {7, 2}}) {
@@ -277,6 +309,25 @@ public final class EdgePlaceTest {
             }
             LabelHouse apart = Houses.printed("^L42,21^Q1,0,0^Xa^;^O21^Q1,0,0^Xa^;^E");
             CHECK.due("scan(1, 1, 0)", apart.scan(1, 1, 0), 2);
+        });
+        CHECK.test("places: side by side, on each side, both lead, whichever has fewer wrong dots", () -> {
+            int[][] at = {{0, 21, 21, 21}, {42, 21, 21, 21}, {21, 0, 21, 21}, {21, 42, 21, 21}};
+            for (int[] row : at) {
+                for (int first = 0; first < 2; first++) {
+                    LabelHouse house = Houses.printed("^L63,63^O" + row[0] + "," + row[1] + "^Q1,0,0^Xa^;^O" + row[2] + "," + row[3]
+                        + "^Q1,0,0^Xb^;^E");
+                    house.spoil(row[2 * first] + 3, row[2 * first + 1], 1);
+                    CHECK.due("scan(1, 1, 3)", house.scan(1, 1, 3), 2);
+                    due("side by side", house, 1, 1, 3);
+                }
+            }
+            // and with a larger one, whose side is not the same
+            LabelHouse large = Houses.printed("^L63,50^Q2,0,0^Xa^;^O42,20^Q1,0,0^Xb^;^E");
+            large.spoil(0, 0, 1);
+            CHECK.due("beside a larger one", Places.told(large, 1, 2, 1), "0 0 2 1 0 1|42 20 1 1 0 0|");
+            LabelHouse below = Houses.printed("^L50,63^Q2,0,0^Xa^;^O20,42^Q1,0,0^Xb^;^E");
+            below.spoil(0, 0, 1);
+            CHECK.due("below a larger one", Places.told(below, 1, 2, 1), "0 0 2 1 0 1|20 42 1 1 0 0|");
         });
         CHECK.test("places: one dot in common at a corner is enough", () -> {
             // the lower right corner of a symbol is no mark, so another one may begin there

@@ -77,6 +77,16 @@ public final class EdgeSheetTest {
                 CHECK.due("spoil(" + x + ", 0, -1)", house.spoil(x, 0, -1), 0);
             }
             CHECK.due("told(6)", house.told(6), 0);
+            LabelHouse high = light(512, 512);
+            CHECK.due("spoil(511, 0, -1)", high.spoil(511, 0, -1), 1);
+            CHECK.due("spoil(-63, 2, -1)", high.spoil(-63, 2, -1), 1);
+            CHECK.due("spoil(0, 512, -1)", high.spoil(0, 512, -1), 0);
+            CHECK.due("spoil(511, 511, -1)", high.spoil(511, 511, -1), 1);
+            CHECK.due("row 0", high.dots(448, 0), Long.MIN_VALUE);
+            CHECK.due("row 1", high.dots(0, 1), 0);
+            CHECK.due("the end of row 1", high.dots(448, 1), 0);
+            CHECK.due("row 2", high.dots(0, 2), 1);
+            CHECK.due("told(6)", high.told(6), 3);
         });
         CHECK.test("promise 14: places that were found stay, and what is read, too", () -> {
             LabelHouse house = Houses.printed("^L30,30^Q1^Xa^;^E");
@@ -257,6 +267,19 @@ public final class EdgeSheetTest {
             for (int x : new int[] {LEAST, LEAST + 1, -65, 512, 1024, MOST - 64, MOST - 63, MOST - 62, MOST}) {
                 CHECK.due("dots(" + x + ", 0)", house.dots(x, 0), 0);
             }
+            // rows above and below are dark, too
+            LabelHouse dark = Houses.printed("^L512,512^F512,512,200^;^E");
+            for (int y : new int[] {0, 1, 100, 510, 511}) {
+                CHECK.due("dots(511, " + y + ")", dark.dots(511, y), 1);
+                CHECK.due("dots(510, " + y + ")", dark.dots(510, y), 3);
+                CHECK.due("dots(449, " + y + ")", dark.dots(449, y), -1L >>> 1);
+                CHECK.due("dots(512, " + y + ")", dark.dots(512, y), 0);
+                CHECK.due("dots(-1, " + y + ")", dark.dots(-1, y), -2);
+                CHECK.due("dots(-63, " + y + ")", dark.dots(-63, y), Long.MIN_VALUE);
+                CHECK.due("dots(-64, " + y + ")", dark.dots(-64, y), 0);
+            }
+            CHECK.due("dots(0, 512)", dark.dots(0, 512), 0);
+            CHECK.due("dots(0, -1)", dark.dots(0, -1), 0);
         });
     }
 

@@ -130,6 +130,20 @@ public final class EdgeSquareTest {
                 due(data.toString(), i % 4, i % 8);
             }
         });
+        CHECK.test("squares: one bit tells which division has fewer, also from version 10 on", () -> {
+            // seven digits behind or before an even number of signs take one bit more as digits there
+            for (int digits = 5; digits <= 9; digits++) {
+                for (int more = 0; more < 2; more++) {
+                    String number = "1234567890".substring(0, digits);
+                    due("A".repeat(150 + more) + number, 3, 0);
+                    due(number + "A".repeat(150 + more), 3, 1);
+                    due("a".repeat(100) + number + "AB".repeat(10) + "C".repeat(more), 3, 2);
+                    due("a".repeat(100) + "AB".repeat(10) + "C".repeat(more) + number, 3, 3);
+                    due("a".repeat(140 + more) + number, 2, 4);
+                    due("A".repeat(12 + more) + number, 0, 5);
+                }
+            }
+        });
         CHECK.test("squares: a segment of a mode pays from a number of bytes on, not before", () -> {
             for (int digits = 1; digits <= 9; digits++) {
                 due("abc" + "1".repeat(digits), 0, 0);
@@ -164,6 +178,17 @@ public final class EdgeSquareTest {
             }
             CHECK.isTrue("some had two masks with the least penalty", ties > 0);
         });
+        CHECK.test("squares: the share of dark modules tells, ten for each five hundredths", () -> {
+            String[] texts = {"TTTTTTTTTTTT", "AGA", "NNNNNNNNNN", "HHHHHHHHHH", "UUUUU", "0000", "JKNYUXGV", "PPPPPPPPPP", "DDDDDDDDDDD",
+                "867837326109", "65783738729462", "uk", "UTPSA", "441259", "juo", "FBHGHL", "sqqs", "pwc", "UWFPX"};
+            int[] levels = {1, 3, 1, 1, 2, 2, 2, 0, 2, 1, 2, 2, 2, 1, 1, 1, 2, 2, 2};
+            int[] masks = {2, 0, 0, 2, 4, 6, 7, 3, 6, 7, 2, 6, 0, 6, 6, 4, 4, 0, 6};
+            for (int i = 0; i < texts.length; i++) {
+                Symbol symbol = Symbol.of(1, levels[i], masks[i], Bits.best(texts[i], 1).toString());
+                LabelHouse house = Houses.printed("^L21,21^Q1," + levels[i] + "^X" + texts[i] + "^;^E");
+                CHECK.due("the symbol of " + texts[i], Houses.sheet(house), symbol.rows());
+            }
+        });
         CHECK.test("squares: masks 0 to 7 are as they are told", () -> {
             for (int mask = 0; mask < 8; mask++) {
                 due("masks of a symbol of version four or more, with squares within", 1, mask);
@@ -171,51 +196,43 @@ public final class EdgeSquareTest {
         });
     }
 
+    /** A symbol that is full of bytes, as many as can be light ones, for an object has 512 calls. */
+    private static void whole(int version, int level) {
+        int mask = version % 8;
+        int[] bytes = Symbol.lightBytes(version, level, mask);
+        StringBuilder light = new StringBuilder();
+        for (int b : bytes) {
+            light.append(new Bits(version).put(b, 8));
+        }
+        int head = 4 + new Bits(version).countBits(2);
+        int size = (8 * bytes.length - head) / 8;
+        String all = new Bits(version).head(2, size) + light.substring(head, head + 8 * size);
+        LabelHouse house = Symbol.of(version, level, mask, all).found();
+        CHECK.due("version", house.found(0, 3), version);
+        CHECK.due("decode(0) of version " + version, house.decode(0), size);
+        CHECK.due("level", house.reading(1), level);
+        CHECK.due("mask", house.reading(2), mask);
+        CHECK.due("put right", house.reading(3), 0);
+        CHECK.due("segments", house.reading(4), 1);
+        for (int i : new int[] {0, Math.max(0, size / 2 - 4), Math.max(0, size - 8)}) {
+            long due = 0;
+            for (int j = Math.min(7, size - i - 1); j >= 0; j--) {
+                due = due << 8 | Integer.parseInt(all.substring(head + 8 * (i + j), head + 8 * (i + j) + 8), 2);
+            }
+            CHECK.due("got(" + i + ") of version " + version, house.got(i), due);
+        }
+        CHECK.due("got(size)", house.got(size), 0);
+    }
+
     private static void versions() {
-        CHECK.test("promise 21: symbols of versions 1 to 37, at all levels, with modes 0 to 2", () -> {
-            for (int version = 1; version <= 37; version++) {
-                int level = version % 4;
-                int room = 8 * Symbol.holds(version, level);
-                Bits bits = new Bits(version).digits("0123456789").signs("AZ:");
-                if (version > 1 || level < 2) {
-                    bits.bytes("\0\377");
+        for (int l = 0; l < 4; l++) {
+            int level = l;
+            CHECK.test("promise 21: symbols of versions 1 to 40 at level " + level, () -> {
+                for (int version = 1; version <= 40; version++) {
+                    whole(version, level);
                 }
-                CHECK.isTrue("there is room", bits.length() <= room);
-                Symbol symbol = Symbol.of(version, level, version % 8, bits.toString());
-                LabelHouse house = symbol.found();
-                CHECK.due("version", house.found(0, 3), version);
-                int size = version > 1 || level < 2 ? 15 : 13;
-                CHECK.due("decode(0) of version " + version, house.decode(0), size);
-                CHECK.due("got", Houses.got(house, size), "0123456789AZ:\0\377".substring(0, size));
-                CHECK.due("level", house.reading(1), level);
-                CHECK.due("mask", house.reading(2), version % 8);
-                CHECK.due("put right", house.reading(3), 0);
-            }
-        });
-        CHECK.test("promise 21: the largest symbols, versions 38, 39 and 40, whole", () -> {
-            for (int version = 38; version <= 40; version++) {
-                int[] bytes = Symbol.lightBytes(version, 0, 1);
-                int size = bytes.length - 3;
-                StringBuilder bits = new StringBuilder();
-                for (int b : bytes) {
-                    bits.append(new Bits(version).put(b, 8));
-                }
-                String head = new Bits(version).head(2, size).toString();
-                String all = head + bits.substring(head.length(), 8 * bytes.length - 4);
-                Symbol symbol = Symbol.of(version, 0, 1, all);
-                LabelHouse house = symbol.found();
-                CHECK.due("version", house.found(0, 3), version);
-                CHECK.due("decode(0)", house.decode(0), size);
-                for (int i : new int[] {0, 1, 1000, size - 8}) {
-                    long due = 0;
-                    for (int j = 7; j >= 0; j--) {
-                        due = due << 8 | Integer.parseInt(all.substring(20 + 8 * (i + j), 28 + 8 * (i + j)), 2);
-                    }
-                    CHECK.due("got(" + i + ")", house.got(i), due);
-                }
-                CHECK.due("got(size)", house.got(size), 0);
-            }
-        });
+            });
+        }
         CHECK.test("squares: a count has as many bits as versions 9, 10, 26 and 27 ask for", () -> {
             for (int version : new int[] {9, 10, 26, 27}) {
                 due("digits, version " + version, version, new Bits(version).digits("12345"), "1 segments: 12345");
@@ -247,6 +264,18 @@ public final class EdgeSquareTest {
             }
         }
         return symbol;
+    }
+
+    /** A house that has found a symbol and whose FORM words, both of them, were spoiled then. */
+    private static LabelHouse withForm(Symbol symbol, int wrong) {
+        LabelHouse house = symbol.found();
+        for (int i = 0; i < 15; i++) {
+            for (boolean second : new boolean[] {false, true}) {
+                int[] at = symbol.formPlace(i, second);
+                house.spoil(at[0], at[1], wrong >> i & 1);
+            }
+        }
+        return house;
     }
 
     /** A set of so many bits that brings the form's word as far as it can be from all others. */
@@ -284,6 +313,28 @@ public final class EdgeSquareTest {
             LabelHouse house = withForm(wrongBits(4, 0), wrongBits(4, 1000)).found();
             CHECK.due("decode(0)", house.decode(0), NONE);
             CHECK.due("reading(6)", house.reading(6), 1);
+        });
+        CHECK.test("promise 21: of all 32768 words those that differ in more than three from each form have fault 1", () -> {
+            Symbol symbol = Symbol.of(1, 2, 5, new Bits(1).bytes("form").toString());
+            LabelHouse house = null;
+            int word = Symbol.formWord(2, 5);
+            boolean right = true;
+            for (int i = 0; i < 32768; i++) {
+                // an object has 512 calls, so another one takes over now and then
+                if (i % 100 == 0) {
+                    house = withForm(symbol, word ^ Symbol.formWord(2, 5));
+                }
+                house.decode(0);
+                right &= (house.reading(6) == 1) == (nearest(word) > 3);
+                // the next word differs in one bit
+                int bit = Integer.numberOfTrailingZeros(i + 1) % 15;
+                word ^= 1 << bit;
+                for (boolean second : new boolean[] {false, true}) {
+                    int[] at = symbol.formPlace(bit, second);
+                    house.spoil(at[0], at[1], 1);
+                }
+            }
+            CHECK.isTrue("all words", right);
         });
         CHECK.test("promise 21: the first fifteen count where both are forms", () -> {
             int other = Symbol.formWord(2, 5) ^ Symbol.formWord(2, 4);

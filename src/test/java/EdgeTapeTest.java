@@ -86,6 +86,26 @@ public final class EdgeTapeTest {
             CHECK.due("fault()", end.fault(), 11);
             CHECK.due("place() of the end", end.place(), 4096);
         });
+        CHECK.test("promise 2: what stood behind the tape's end before is not read", () -> {
+            // a text that is longer, and a shorter one that would go on with its bytes
+            String[][] texts = {{"^S1a^Z", "^S1a^"}, {"^L9,9", "^L9,"}, {"^L9,99^E", "^L9,9"}, {"^K1,a", "^K1"}, {"^K1,_41", "^K1,_4"},
+                {"^L9,9^E", "^L9,9^"}, {"^L9,9^E", "^L9,9"}, {"^L9,9^T^Xab^;^E", "^L9,9^T^Xa"}};
+            for (String[] pair : texts) {
+                LabelHouse house = new LabelHouse();
+                Houses.feed(house, pair[0]);
+                house.wipe();
+                CHECK.due(pair[1], Houses.result(house, pair[1]), Houses.result(pair[1]));
+            }
+            CHECK.due("a form without its end", Houses.result("^S1a^"), Houses.fault(7, 0));
+        });
+        CHECK.test("promise 2: a form without ^Z on a full tape, also one that ends with ^", () -> {
+            for (String end : new String[] {"a", "^", "^z"}) {
+                LabelHouse house = filled(4096 - 4 - end.length());
+                Houses.feed(house, "^S1 " + end);
+                CHECK.due("read()", house.read(), NONE);
+                CHECK.due("fault()", house.fault(), 7);
+            }
+        });
         CHECK.test("promise 2: behind a reading or wipe() the tape takes 4096 bytes again", () -> {
             LabelHouse house = filled(4096);
             CHECK.due("read()", house.read(), 0);

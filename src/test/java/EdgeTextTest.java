@@ -228,6 +228,9 @@ public final class EdgeTextTest {
             CHECK.due("P", Houses.ofLabel("^Xff^P^;"), "7 0 0 0 0 8 0 0 \377");
             CHECK.due("W", Houses.ofLabel("^Xab^W1^;^Xab^W1,,,^;"),
                 "0 0 0 0 0 0 1 1 a|0 0 0 0 0 0 1 1 b|0 0 0 0 0 0 1 1 a|0 0 0 0 0 0 1 1 b");
+            CHECK.due("W, a left out is 0, the left", Houses.ofLabel("^Xab^W5,7,,10^;"), "0 0 0 0 0 0 1 1 ab");
+            CHECK.due("W, u left out is 0", Houses.ofLabel("^Xab^W5,7,1^;"), "0 0 0 0 0 0 1 1 ab");
+            CHECK.due("W, l left out is 0", Houses.ofLabel("^Xab^W1,,1,9^;"), "0 0 0 0 0 0 1 1 a|0 0 0 0 0 0 1 1 b");
         });
         CHECK.test("terms: D left out makes texts 0, 1, 1, 0 again; T left out is as texts are there", () -> {
             CHECK.due("D", Houses.ofLabel("^D3,4,5,1^Xa^T^;^Xa^T,,9^;^D,6^Xa^T^;^D^Xa^T^;^D,,,2^Xa^T,,,^;"),
