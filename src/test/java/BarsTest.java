@@ -7,17 +7,6 @@ import java.util.Random;
 
 /** Promises 22 to 24 for codes of bars, and the rows that are drawn. */
 public final class BarsTest {
-    private static final String WIDTHS =
-        "212222222122222221121223121322131222122213122312132212221213221312231212"
-        + "112232122132122231113222123122123221223211221132221231213212223112312131"
-        + "311222321122321221312212322112322211212123212321232121111323131123131321"
-        + "112313132113132311211313231113231311112133112331132131113123113321133121"
-        + "313121211331231131213113213311213131311123311321331121312113312311332111"
-        + "314111221411431111111224111422121124121421141122141221112214112412122114"
-        + "122411142112142211241211221114413111241112134111111242121142121241114212"
-        + "124112124211411212421112421211212141214121412121111143111341131141114113"
-        + "114311411113411311113141114131311141411131211412211214211232";
-    private static final String STOP = "2331112";
     private static final Check CHECK = new Check();
 
     public static void main(String[] args) {
@@ -43,15 +32,6 @@ public final class BarsTest {
         return all;
     }
 
-    private static int symbolOf(String six) {
-        for (int s = 0; s < 106; s++) {
-            if (WIDTHS.startsWith(six, 6 * s)) {
-                return s;
-            }
-        }
-        return -1;
-    }
-
     /** The symbols of a drawn row without its check symbol and 106, which are looked at here. */
     private static List<Integer> drawnSymbols(LabelHouse house, int module) {
         StringBuilder text = new StringBuilder();
@@ -60,9 +40,9 @@ public final class BarsTest {
         }
         List<Integer> symbols = new ArrayList<>();
         int last = text.length() - 7;
-        CHECK.due("the end of a row", text.substring(last), STOP);
+        CHECK.due("the end of a row", text.substring(last), Strips.STOP);
         for (int i = 0; i < last; i += 6) {
-            symbols.add(symbolOf(text.substring(i, i + 6)));
+            symbols.add(Strips.symbolOf(text.substring(i, i + 6)));
         }
         int check = symbols.remove(symbols.size() - 1);
         int sum = symbols.get(0);
@@ -240,34 +220,12 @@ public final class BarsTest {
         CHECK.end();
     }
 
-    /** A house with a strip in row 0 of its sheet. */
     private static LabelHouse withStrip(int... widths) {
-        LabelHouse house = Houses.printed("^L512,2^E");
-        int x = 0;
-        for (int i = 0; i < widths.length; i++) {
-            for (int dot = 0; dot < widths[i]; dot++) {
-                if (i % 2 == 0) {
-                    house.spoil(x + dot, 0, 1);
-                }
-            }
-            x += widths[i];
-        }
-        return house;
+        return Strips.house(0, widths);
     }
 
     private static int[] strip(int module, int... symbols) {
-        StringBuilder text = new StringBuilder();
-        int sum = symbols[0];
-        for (int i = 0; i < symbols.length; i++) {
-            sum += i * symbols[i];
-            text.append(WIDTHS, 6 * symbols[i], 6 * symbols[i] + 6);
-        }
-        text.append(WIDTHS, 6 * (sum % 103), 6 * (sum % 103) + 6).append(STOP);
-        int[] widths = new int[text.length()];
-        for (int i = 0; i < widths.length; i++) {
-            widths[i] = module * (text.charAt(i) - '0');
-        }
-        return widths;
+        return Strips.widths(Strips.row(symbols), module);
     }
 
     private static void dueSymbols(int signs, String text, int... symbols) {

@@ -4,16 +4,6 @@ import java.util.List;
 
 /** Codes of bars, promises 12 and 22 to 24, sentence by sentence: rows, thirteen figures, and the strips that are read. */
 public final class EdgeBarsTest {
-    private static final String[] WIDTHS = ("212222 222122 222221 121223 121322 131222 122213 122312 132212 221213 221312 231212 "
-        + "112232 122132 122231 113222 123122 123221 223211 221132 221231 213212 223112 312131 "
-        + "311222 321122 321221 312212 322112 322211 212123 212321 232121 111323 131123 131321 "
-        + "112313 132113 132311 211313 231113 231311 112133 112331 132131 113123 113321 133121 "
-        + "313121 211331 231131 213113 213311 213131 311123 311321 331121 312113 312311 332111 "
-        + "314111 221411 431111 111224 111422 121124 121421 141122 141221 112214 112412 122114 "
-        + "122411 142112 142211 241211 221114 413111 241112 134111 111242 121142 121241 114212 "
-        + "124112 124211 411212 421112 421211 212141 214121 412121 111143 111341 131141 114113 "
-        + "114311 411113 411311 113141 114131 311141 411131 211412 211214 211232").split(" ");
-    private static final String STOP = "2331112";
     private static final String[] FIGURES = "3211 2221 2122 1411 1132 1231 1114 1312 1213 3112".split(" ");
     private static final String[] FIRSTS = "000000 001011 001101 001110 010011 011001 011100 010101 010110 011010".split(" ");
     private static final Check CHECK = new Check();
@@ -36,38 +26,6 @@ public final class EdgeBarsTest {
         CHECK.exit();
     }
 
-    /** A house with a strip in row 0 of its sheet, from x on. */
-    private static LabelHouse withStrip(int x, int[] widths) {
-        LabelHouse house = Houses.printed("^L512,2^E");
-        int at = x;
-        for (int i = 0; i < widths.length; i++) {
-            for (int done = 0; i % 2 == 0 && done < widths[i]; done += 64) {
-                house.spoil(at + done, 0, widths[i] - done >= 64 ? -1L : (1L << (widths[i] - done)) - 1);
-            }
-            at += widths[i];
-        }
-        return house;
-    }
-
-    private static int[] widths(String pattern, int module) {
-        int[] widths = new int[pattern.length()];
-        for (int i = 0; i < widths.length; i++) {
-            widths[i] = module * (pattern.charAt(i) - '0');
-        }
-        return widths;
-    }
-
-    /** The widths of symbols, their check symbol and 106. */
-    private static String row(int... symbols) {
-        StringBuilder text = new StringBuilder();
-        int sum = symbols[0];
-        for (int i = 0; i < symbols.length; i++) {
-            sum += i * symbols[i];
-            text.append(WIDTHS[symbols[i]]);
-        }
-        return text + WIDTHS[sum % 103] + STOP;
-    }
-
     private static String turned(String pattern) {
         return new StringBuilder(pattern).reverse().toString();
     }
@@ -79,7 +37,7 @@ public final class EdgeBarsTest {
     }
 
     private static String read(int[] widths) {
-        return read(withStrip(0, widths));
+        return read(Strips.house(0, widths));
     }
 
     private static void due(String what, int[] widths, String want) {
@@ -87,7 +45,7 @@ public final class EdgeBarsTest {
     }
 
     private static void due(String want, int... symbols) {
-        CHECK.due(Arrays.toString(symbols), read(widths(row(symbols), 1)), want.equals("NONE") ? want : "1 front: " + want);
+        CHECK.due(Arrays.toString(symbols), read(Strips.widths(Strips.row(symbols), 1)), want.equals("NONE") ? want : "1 front: " + want);
     }
 
     /** The row that is drawn for a text, as widths of one dot a module. */
@@ -98,11 +56,11 @@ public final class EdgeBarsTest {
             widths.append(house.run(0, 0, i, false));
         }
         // what is behind the last bar is the rest of the sheet
-        return widths.length() == 0 ? "" : widths.substring(0, widths.lastIndexOf(STOP) + 7);
+        return widths.length() == 0 ? "" : widths.substring(0, widths.lastIndexOf(Strips.STOP) + 7);
     }
 
     private static void dueRow(String text, int... symbols) {
-        CHECK.due("the row of " + Houses.escaped(text), drawn(text), row(symbols));
+        CHECK.due("the row of " + Houses.escaped(text), drawn(text), Strips.row(symbols));
     }
 
     private static void rows() {
@@ -163,6 +121,20 @@ public final class EdgeBarsTest {
                 dueRow("123" + beside, 103, 17, 18, 19, symbol);
             }
         });
+        CHECK.test("bars: a row does not depend on the texts that were drawn before", () -> {
+            String[] texts = {"1", "12", "123", "1234", "a", "aaaa", "\0", "\0\0\0", "A", "\200", "a1", "1a", "12345", "\0" + "a"};
+            for (String before : texts) {
+                LabelHouse house = new LabelHouse();
+                for (String text : texts) {
+                    for (String each : new String[] {before, text}) {
+                        Houses.read(house, "^L200,1^B1,1^X" + Houses.escaped(each) + "^;^E");
+                        house.print(0);
+                    }
+                    LabelHouse fresh = Houses.printed("^L200,1^B1,1^X" + Houses.escaped(text) + "^;^E");
+                    CHECK.due(Houses.escaped(text) + " behind " + Houses.escaped(before), Houses.row(house, 0), Houses.row(fresh, 0));
+                }
+            }
+        });
         CHECK.test("bars: from each set to each other one", () -> {
             dueRow("\0\0" + "1234", 103, 64, 64, 99, 12, 34);
             dueRow("aa1234", 104, 65, 65, 99, 12, 34);
@@ -191,7 +163,7 @@ public final class EdgeBarsTest {
                 }
                 symbols.add(i % 6 < 3 ? 64 : 65);
             }
-            String row = row(symbols.stream().mapToInt(Integer::intValue).toArray());
+            String row = Strips.row(symbols.stream().mapToInt(Integer::intValue).toArray());
             StringBuilder due = new StringBuilder();
             for (int i = 0; i < row.length(); i++) {
                 due.append((i % 2 == 0 ? "#" : ".").repeat(row.charAt(i) - '0'));
@@ -235,7 +207,7 @@ public final class EdgeBarsTest {
                     twelve.append((first + i) % 10);
                 }
                 LabelHouse house = Houses.printed("^L512,1^N2,1^X" + twelve + "^;^E");
-                int[] due = widths(figureRow(twelve.toString()), 2);
+                int[] due = Strips.widths(figureRow(twelve.toString()), 2);
                 for (int i = 0; i < 59; i++) {
                     CHECK.due("width " + i + " of " + twelve, house.run(0, 0, i, false), due[i]);
                 }
@@ -329,8 +301,8 @@ public final class EdgeBarsTest {
             for (int wrong = 0; wrong < 106; wrong++) {
                 int right = (104 + 33 + 2 * 34) % 103;
                 if (wrong != right) {
-                    String text = WIDTHS[104] + WIDTHS[33] + WIDTHS[34] + WIDTHS[wrong] + STOP;
-                    due("check symbol " + wrong, widths(text, 1), "NONE");
+                    String text = Strips.SYMBOLS[104] + Strips.SYMBOLS[33] + Strips.SYMBOLS[34] + Strips.SYMBOLS[wrong] + Strips.STOP;
+                    due("check symbol " + wrong, Strips.widths(text, 1), "NONE");
                 }
             }
         });
@@ -339,7 +311,7 @@ public final class EdgeBarsTest {
     private static void counting() {
         CHECK.test("promise 22: a width counts as the nearest whole number, of two such as the greater one", () -> {
             // 44 dots are 11 modules: 6 is one and a half, 10 two and a half, 14 three and a half
-            int[] half = widths(row(104, 0), 4);
+            int[] half = Strips.widths(Strips.row(104, 0), 4);
             // symbol 0 is 212222
             System.arraycopy(new int[] {6, 4, 8, 8, 9, 9}, 0, half, 6, 6);
             due("one and a half counts as 2", half, "1 front:  ");
@@ -354,14 +326,14 @@ public final class EdgeBarsTest {
             System.arraycopy(new int[] {5, 5, 8, 8, 9, 9}, 0, half, 6, 6);
             due("one and a quarter counts as no 2", half, "NONE");
             // symbol 3 is 121223
-            int[] third = widths(row(104, 3), 4);
+            int[] third = Strips.widths(Strips.row(104, 3), 4);
             System.arraycopy(new int[] {4, 8, 4, 9, 9, 10}, 0, third, 6, 6);
             due("two and a half counts as 3", third, "1 front: #");
             System.arraycopy(new int[] {4, 9, 4, 9, 9, 9}, 0, third, 6, 6);
             due("two and a quarter counts as no 3", third, "NONE");
         });
         CHECK.test("promise 22: a width may count as 0, and tells nothing then", () -> {
-            int[] none = widths(row(104, 0), 8);
+            int[] none = Strips.widths(Strips.row(104, 0), 8);
             // 3 of 88 is three eighths of a module, 4 a half
             System.arraycopy(new int[] {16, 4, 17, 17, 17, 17}, 0, none, 6, 6);
             due("a half counts as 1", none, "1 front:  ");
@@ -369,14 +341,14 @@ public final class EdgeBarsTest {
             due("less counts as 0", none, "NONE");
         });
         CHECK.test("promise 22: each six counts by its own sum, so modules may differ from symbol to symbol", () -> {
-            int[] small = widths(row(104, 33), 2);
+            int[] small = Strips.widths(Strips.row(104, 33), 2);
             for (int i = 6; i < 12; i++) {
                 small[i] *= 3;
             }
             due("one symbol larger", small, "1 front: A");
         });
         CHECK.test("promise 22: the last seven count as 106 with 13 modules together", () -> {
-            int[] end = widths(row(104, 33), 4);
+            int[] end = Strips.widths(Strips.row(104, 33), 4);
             int at = end.length - 7;
             // 52 dots are 13 modules; 2 3 3 1 1 1 2
             System.arraycopy(new int[] {8, 10, 12, 5, 5, 4, 8}, 0, end, at, 7);
@@ -396,14 +368,14 @@ public final class EdgeBarsTest {
         String twelve = "590123412345";
         CHECK.test("promise 22: 59 widths of thirteen figures", () -> {
             for (int module = 1; module <= 5; module++) {
-                due("module " + module, widths(figureRow(twelve), module), "2 front: 5901234123457");
-                due("from the back, module " + module, widths(turned(figureRow(twelve)), module), "2 back: 5901234123457");
+                due("module " + module, Strips.widths(figureRow(twelve), module), "2 front: 5901234123457");
+                due("from the back, module " + module, Strips.widths(turned(figureRow(twelve)), module), "2 back: 5901234123457");
             }
         });
         CHECK.test("promise 22: the first three, the five in the middle and the last three all count as 1, with all widths", () -> {
             for (int i = 0; i < 59; i++) {
                 boolean guard = i < 3 || (i >= 27 && i < 32) || i >= 56;
-                int[] strip = widths(figureRow(twelve), 4);
+                int[] strip = Strips.widths(figureRow(twelve), 4);
                 // of about 383 dots in all one module and a half are 6.05
                 strip[i] = guard ? 6 : strip[i];
                 due("a guard of 6 dots, " + i, strip, "2 front: 5901234123457");
@@ -417,7 +389,7 @@ public final class EdgeBarsTest {
             }
         });
         CHECK.test("promise 22: the four widths of a figure count with these four, and 7 modules", () -> {
-            int[] strip = widths(figureRow(twelve), 4);
+            int[] strip = Strips.widths(figureRow(twelve), 4);
             // the last figure but the check figure is 5, 1231, of 28 dots: 10 is two and a half, 6 one and a half
             int at = 32 + 4 * 4;
             System.arraycopy(new int[] {4, 8, 11, 5}, 0, strip, at, 4);
@@ -438,7 +410,7 @@ public final class EdgeBarsTest {
                 String row = figureRow(twelve);
                 int at = 32 + 4 * i;
                 String other = row.substring(0, at) + turned(row.substring(at, at + 4)) + row.substring(at + 4);
-                due("figure " + (8 + i), widths(other, 2), "NONE");
+                due("figure " + (8 + i), Strips.widths(other, 2), "NONE");
             }
         });
         CHECK.test("promise 22: the second to the seventh are turned as by one of the first figures", () -> {
@@ -458,17 +430,17 @@ public final class EdgeBarsTest {
                 // without a first figure no check figure is right
                 for (int check = 0; check < 10; check++) {
                     String want = first < 0 || check != right ? "NONE" : "2 front: " + first + "12345600000" + check;
-                    due("turned " + which, widths(row + FIGURES[check] + "111", 1), want);
+                    due("turned " + which, Strips.widths(row + FIGURES[check] + "111", 1), want);
                 }
             }
         });
         CHECK.test("promise 22: the check figure must be right", () -> {
             for (int check = 0; check < 10; check++) {
-                due("check figure " + check, widths(figureRow(twelve, check), 1), check == 7 ? "2 front: 5901234123457" : "NONE");
+                due("check figure " + check, Strips.widths(figureRow(twelve, check), 1), check == 7 ? "2 front: 5901234123457" : "NONE");
             }
         });
         CHECK.test("promise 22: 57 and 61 widths are not of thirteen figures", () -> {
-            int[] all = widths(figureRow(twelve), 2);
+            int[] all = Strips.widths(figureRow(twelve), 2);
             due("57", Arrays.copyOf(all, 57), "NONE");
             int[] more = Arrays.copyOf(all, 61);
             more[59] = 2;
@@ -483,50 +455,48 @@ public final class EdgeBarsTest {
             due("", 103);
             due("", 104);
             due("", 105);
-            due("k of 1", widths(WIDTHS[103] + STOP, 1), "NONE");
-            due("k of 0", widths(STOP, 1), "NONE");
-            due("18 widths", Arrays.copyOf(widths(row(103), 1), 18), "NONE");
-            due("17 widths", Arrays.copyOf(widths(row(103), 1), 17), "NONE");
+            due("k of 1", Strips.widths(Strips.SYMBOLS[103] + Strips.STOP, 1), "NONE");
+            due("k of 0", Strips.widths(Strips.STOP, 1), "NONE");
+            due("18 widths", Arrays.copyOf(Strips.widths(Strips.row(103), 1), 18), "NONE");
+            due("17 widths", Arrays.copyOf(Strips.widths(Strips.row(103), 1), 17), "NONE");
         });
         CHECK.test("promise 22: how many signs it tells, from none to more than 64", () -> {
-            CHECK.due("none", withStrip(0, widths(row(103), 1)).bars(0, 0, false), 0);
+            CHECK.due("none", Strips.house(0, Strips.widths(Strips.row(103), 1)).bars(0, 0, false), 0);
             for (int count : new int[] {31, 32, 33, 42}) {
                 int[] symbols = new int[1 + count];
                 Arrays.fill(symbols, 99);
                 symbols[0] = 105;
                 String want = "99".repeat(count);
-                due(2 * count + " signs", widths(row(symbols), 1), "1 front: " + want);
-                due(2 * count + " signs from the back", widths(turned(row(symbols)), 1), "1 back: " + want);
+                due(2 * count + " signs", Strips.widths(Strips.row(symbols), 1), "1 front: " + want);
+                due(2 * count + " signs from the back", Strips.widths(turned(Strips.row(symbols)), 1), "1 back: " + want);
             }
         });
         CHECK.test("promise 22: from the back as if it were the other way round", () -> {
-            due("a row", widths(turned(row(104, 33, 98, 65, 99, 12)), 2), "1 back: A\00112");
-            due("a short row", widths(turned(row(103)), 2), "1 back: ");
+            due("a row", Strips.widths(turned(Strips.row(104, 33, 98, 65, 99, 12)), 2), "1 back: A\00112");
+            due("a short row", Strips.widths(turned(Strips.row(103)), 2), "1 back: ");
         });
         CHECK.test("promise 22: neither from the front nor from the back", () -> {
             due("a bar alone", new int[] {9}, "NONE");
-            due("all of one width", widths("1".repeat(59), 1), "NONE");
-            due("all of one width", widths("1".repeat(61), 1), "NONE");
+            due("all of one width", Strips.widths("1".repeat(59), 1), "NONE");
+            due("all of one width", Strips.widths("1".repeat(61), 1), "NONE");
             due("the whole row dark", new int[] {512}, "NONE");
-            due("512 runs", widths("1".repeat(512), 1), "NONE");
+            due("512 runs", Strips.widths("1".repeat(512), 1), "NONE");
         });
         CHECK.test("promise 22: a strip ends with a dark one, at the sheet's edge or before other dots", () -> {
-            String row = row(104, 33, 34);
+            String row = Strips.row(104, 33, 34);
             int x = 512 - 3 * (11 * 4 + 13);
-            CHECK.due("up to the edge", withStrip(x, widths(row, 3)).bars(x, 0, false), 2);
-            CHECK.due("its last bar cut by one dot of six", withStrip(x + 1, widths(row, 3)).bars(x + 1, 0, false), 2);
-            CHECK.due("by two", withStrip(x + 2, widths(row, 3)).bars(x + 2, 0, false), NONE);
-            CHECK.due("by all", withStrip(x + 6, widths(row, 3)).bars(x + 6, 0, false), NONE);
-            LabelHouse shorter = withStrip(0, widths(row, 3));
-            int[] first = widths(row, 3);
-            int at = 0;
-            for (int i = 0; i < first.length - 1; i++) {
-                shorter.spoil(at, 1, i % 2 == 0 ? (1L << first[i]) - 1 : 0);
-                at += first[i];
-            }
+            CHECK.due("up to the edge", Strips.house(x, Strips.widths(row, 3)).bars(x, 0, false), 2);
+            CHECK.due("its last bar cut by one dot of six", Strips.house(x + 1, Strips.widths(row, 3)).bars(x + 1, 0, false), 2);
+            CHECK.due("by two", Strips.house(x + 2, Strips.widths(row, 3)).bars(x + 2, 0, false), NONE);
+            CHECK.due("by all", Strips.house(x + 6, Strips.widths(row, 3)).bars(x + 6, 0, false), NONE);
+            // the same row on a sheet that ends before its last bar, behind a reading of all of it
+            LabelHouse shorter = new LabelHouse();
+            Houses.read(shorter, "^L171,1^B3,1^XAb^;^E^L165,1^B3,1^XAb^;^E");
+            shorter.print(0);
             CHECK.due("all of it", shorter.bars(0, 0, false), 2);
-            CHECK.due("without its last bar, behind a reading of all of it", shorter.bars(0, 1, false), NONE);
-            int[] more = Arrays.copyOf(widths(row, 1), row.length() + 5);
+            shorter.print(1);
+            CHECK.due("without its last bar", shorter.bars(0, 0, false), NONE);
+            int[] more = Arrays.copyOf(Strips.widths(row, 1), row.length() + 5);
             Arrays.fill(more, row.length(), more.length, 7);
             due("other dots behind it", more, "1 front: AB");
         });
@@ -549,15 +519,15 @@ public final class EdgeBarsTest {
             due("all", back, "2 back: 7912080635139");
         });
         CHECK.test("promise 22: two rows one behind the other are not one", () -> {
-            String one = row(104, 33);
-            due("one space between", widths(one + "1" + one, 1), "1 front: A");
-            due("a wide one", widths(one + "9" + one, 1), "1 front: A");
+            String one = Strips.row(104, 33);
+            due("one space between", Strips.widths(one + "1" + one, 1), "1 front: A");
+            due("a wide one", Strips.widths(one + "9" + one, 1), "1 front: A");
         });
     }
 
     private static void dots() {
         CHECK.test("promise 22: from a dark dot on, not from what is before it", () -> {
-            LabelHouse house = withStrip(10, widths(row(104, 33, 34), 3));
+            LabelHouse house = Strips.house(10, Strips.widths(Strips.row(104, 33, 34), 3));
             CHECK.due("at its first dot", house.bars(10, 0, false), 2);
             CHECK.due("within its first bar", house.bars(11, 0, false), 2);
             CHECK.due("at the last dot of its first bar", house.bars(15, 0, false), NONE);
@@ -566,7 +536,7 @@ public final class EdgeBarsTest {
             CHECK.due("at its second bar", house.bars(19, 0, false), NONE);
         });
         CHECK.test("promise 22: NONE when the dot is light, and nothing is read then", () -> {
-            LabelHouse house = withStrip(10, widths(row(104, 33, 34), 3));
+            LabelHouse house = Strips.house(10, Strips.widths(Strips.row(104, 33, 34), 3));
             for (int[] dot : new int[][] {{0, 0}, {9, 0}, {511, 1}, {10, 1}}) {
                 CHECK.due("bars(10, 0, false)", house.bars(10, 0, false), 2);
                 CHECK.due("bars(" + dot[0] + ", " + dot[1] + ", false)", house.bars(dot[0], dot[1], false), NONE);
@@ -577,7 +547,7 @@ public final class EdgeBarsTest {
             }
         });
         CHECK.test("promise 22: NONE when there is no such strip, and nothing is read then", () -> {
-            LabelHouse house = withStrip(10, widths(row(104, 33, 34), 3));
+            LabelHouse house = Strips.house(10, Strips.widths(Strips.row(104, 33, 34), 3));
             CHECK.due("bars(10, 0, false)", house.bars(10, 0, false), 2);
             CHECK.due("downwards", house.bars(10, 0, true), NONE);
             for (int what = 0; what < 6; what++) {
@@ -597,7 +567,7 @@ public final class EdgeBarsTest {
             }
         });
         CHECK.test("promise 22: refused, (x, y) lies not on the sheet, and what was read stays", () -> {
-            LabelHouse house = withStrip(0, widths(row(104, 33, 34), 3));
+            LabelHouse house = Strips.house(0, Strips.widths(Strips.row(104, 33, 34), 3));
             CHECK.due("bars(0, 0, false)", house.bars(0, 0, false), 2);
             int[][] off = {{-1, 0}, {512, 0}, {0, -1}, {0, 2}, {LEAST, 0}, {MOST, 0}, {0, LEAST}, {0, MOST}};
             for (int[] dot : off) {
@@ -618,9 +588,9 @@ public final class EdgeBarsTest {
 
     private static void reading() {
         CHECK.test("promise 23: of a row 1, of thirteen figures 2, NONE for what a symbol has, and the way", () -> {
-            String[] rows = {row(104, 33), turned(row(104, 33)), figureRow("590123412345"), turned(figureRow("590123412345"))};
+            String[] rows = {Strips.row(104, 33), turned(Strips.row(104, 33)), figureRow("590123412345"), turned(figureRow("590123412345"))};
             for (int i = 0; i < 4; i++) {
-                LabelHouse house = withStrip(0, widths(rows[i], 1));
+                LabelHouse house = Strips.house(0, Strips.widths(rows[i], 1));
                 house.bars(0, 0, false);
                 int[] due = {i < 2 ? 1 : 2, NONE, NONE, NONE, NONE, i % 2, 0};
                 for (int what = 0; what < 7; what++) {
@@ -629,7 +599,7 @@ public final class EdgeBarsTest {
             }
         });
         CHECK.test("promise 23: a row that tells nothing is read", () -> {
-            LabelHouse house = withStrip(0, widths(row(103), 1));
+            LabelHouse house = Strips.house(0, Strips.widths(Strips.row(103), 1));
             CHECK.due("bars", house.bars(0, 0, false), 0);
             CHECK.due("reading(0)", house.reading(0), 1);
             CHECK.due("reading(5)", house.reading(5), 0);
@@ -670,7 +640,7 @@ public final class EdgeBarsTest {
 
     private static void got() {
         CHECK.test("promise 24: eight signs of bars from i on, 0 for each that they have not", () -> {
-            LabelHouse house = withStrip(0, widths(figureRow("123456789012"), 1));
+            LabelHouse house = Strips.house(0, Strips.widths(figureRow("123456789012"), 1));
             CHECK.due("got(0) before", house.got(0), 0);
             house.bars(0, 0, false);
             CHECK.due("got(0)", house.got(0), 0x3837_3635_3433_3231L);
@@ -682,7 +652,7 @@ public final class EdgeBarsTest {
             CHECK.due("got(-8)", house.got(-8), 0);
         });
         CHECK.test("promise 24: the mark is 128, and i may be any number", () -> {
-            LabelHouse house = withStrip(0, widths(row(103, 102, 64), 1));
+            LabelHouse house = Strips.house(0, Strips.widths(Strips.row(103, 102, 64), 1));
             CHECK.due("bars", house.bars(0, 0, false), 2);
             CHECK.due("got(0)", house.got(0), 128);
             for (int i : new int[] {LEAST, LEAST + 7, -9, 2, MOST - 7, MOST}) {
@@ -693,7 +663,7 @@ public final class EdgeBarsTest {
             int[] symbols = new int[43];
             Arrays.fill(symbols, 12);
             symbols[0] = 105;
-            LabelHouse house = withStrip(0, widths(row(symbols), 1));
+            LabelHouse house = Strips.house(0, Strips.widths(Strips.row(symbols), 1));
             CHECK.due("bars", house.bars(0, 0, false), 84);
             CHECK.due("got(76)", house.got(76), 0x3231_3231_3231_3231L);
             CHECK.due("got(83)", house.got(83), '2');

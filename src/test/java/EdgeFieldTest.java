@@ -220,28 +220,14 @@ public final class EdgeFieldTest {
         });
     }
 
-    /** The data of a field in its copies, each behind a bar, lines with a / between them. */
-    private static String counted(String kind, String data, int step, int copies) {
-        LabelHouse house = new LabelHouse();
-        Houses.read(house, "^L9,9^C" + copies + kind + "^X" + data + "^#" + step + "^;^E");
-        StringBuilder text = new StringBuilder();
-        for (int c = 0; c < copies; c++) {
-            text.append('|');
-            for (int i = 0; i < house.label(c, 3); i++) {
-                text.append(i == 0 ? "" : "/").append(Houses.data(house, house.label(c, 2) + i));
-            }
-        }
-        return text.toString();
-    }
-
     private static void counted(String data, int step, int copies, String want) {
-        CHECK.due(data + " by " + step, counted("^T", data, step, copies), want);
+        CHECK.due(data + " by " + step, Houses.counted("^T", data, step, copies), want);
     }
 
     private static void copies() {
         CHECK.test("terms: copies 1 and 12, all with the same orders", () -> {
-            CHECK.due("one", counted("^T", "7", 1, 1), "|7");
-            CHECK.due("twelve", counted("^T", "00", 1, 12), "|00|01|02|03|04|05|06|07|08|09|10|11");
+            CHECK.due("one", Houses.counted("^T", "7", 1, 1), "|7");
+            CHECK.due("twelve", Houses.counted("^T", "00", 1, 12), "|00|01|02|03|04|05|06|07|08|09|10|11");
             LabelHouse house = new LabelHouse();
             Houses.read(house, "^L9,8^C12^O3,4^F5,6,7^;^E");
             for (int c = 0; c < 12; c++) {
@@ -286,18 +272,18 @@ public final class EdgeFieldTest {
             counted(head + "999999999", 1, 2, "|" + head + "999999999|" + head + "000000000");
         });
         CHECK.test("terms: data counts on before lines are cut", () -> {
-            CHECK.due("in two lines", counted("^W2", "0199", 1, 2), "|01/99|02/00");
-            CHECK.due("behind a blank", counted("^W2", "7 9", 1, 2), "|7/9|7/0");
-            CHECK.due("behind byte 10", counted("^W9", "9_0A9", 1, 2), "|9/9|9/0");
+            CHECK.due("in two lines", Houses.counted("^W2", "0199", 1, 2), "|01/99|02/00");
+            CHECK.due("behind a blank", Houses.counted("^W2", "7 9", 1, 2), "|7/9|7/0");
+            CHECK.due("behind byte 10", Houses.counted("^W9", "9_0A9", 1, 2), "|9/9|9/0");
         });
         CHECK.test("terms: data counts on before bytes of a picture are made", () -> {
-            CHECK.due("digits", counted("^P", "3139", 1, 2), "|19|1@");
-            CHECK.due("letters do not count", counted("^P", "4a49", 1, 2), "|JI|JP");
+            CHECK.due("digits", Houses.counted("^P", "3139", 1, 2), "|19|1@");
+            CHECK.due("letters do not count", Houses.counted("^P", "4a49", 1, 2), "|JI|JP");
         });
         CHECK.test("terms: thirteen figures, squares and bars with their text count on", () -> {
-            CHECK.due("N", counted("^N", "123456789999", 1, 2), "|123456789999|123456790000");
-            CHECK.due("Q", counted("^Q", "a9", -1, 2), "|a9|a8");
-            CHECK.due("B", counted("^B,,,1", "9", 1, 2), "|9/9|0/0");
+            CHECK.due("N", Houses.counted("^N", "123456789999", 1, 2), "|123456789999|123456790000");
+            CHECK.due("Q", Houses.counted("^Q", "a9", -1, 2), "|a9|a8");
+            CHECK.due("B", Houses.counted("^B,,,1", "9", 1, 2), "|9/9|0/0");
         });
         CHECK.test("terms: a field that does not count on is the same in all copies", () ->
             CHECK.due("orders", Houses.orders("^L9,9^C2^X1^T^;^E"), "0 0 0 0 0 0 1 1 1|0 0 0 0 0 0 1 1 1"));

@@ -2,11 +2,6 @@
 public final class EdgeFigureTest {
     private static final Check CHECK = new Check();
 
-    /** Whether a dot is one of a figure's. */
-    interface Figure {
-        boolean has(int x, int y);
-    }
-
     public static void main(String[] args) {
         print();
         ways();
@@ -21,7 +16,7 @@ public final class EdgeFigureTest {
     }
 
     /** Draws one field on a sheet and compares all dots with a figure. */
-    private static void due(LabelHouse house, String field, int w, int h, Figure figure) {
+    private static void due(LabelHouse house, String field, int w, int h, Figures.Figure figure) {
         Houses.read(house, "^L" + w + "," + h + field + "^;^E");
         CHECK.due("print(0) of " + field, house.print(0), 1);
         int dots = 0;
@@ -170,27 +165,11 @@ public final class EdgeFigureTest {
     }
 
     private static void frame(LabelHouse house, int x, int y, int w, int h, int t) {
-        due(house, "^O" + x + "," + y + "^F" + w + "," + h + "," + t, 10, 9, (px, py) ->
-            in(px, x, x + w - 1) && in(py, y, y + h - 1)
-            && !(in(px, x + t, x + w - 1 - t) && in(py, y + t, y + h - 1 - t)));
-    }
-
-    /** By whole numbers: four times the square of the distance against that of t. */
-    private static boolean isNear(long px, long py, long dx, long dy, long t) {
-        long along = px * dx + py * dy;
-        long whole = dx * dx + dy * dy;
-        if (along <= 0) {
-            return 4 * (px * px + py * py) <= t * t;
-        }
-        if (along >= whole) {
-            return isNear(px - dx, py - dy, 0, 0, t);
-        }
-        long across = px * dy - py * dx;
-        return 4 * across * across <= t * t * whole;
+        due(house, "^O" + x + "," + y + "^F" + w + "," + h + "," + t, 10, 9, Figures.frame(x, y, w, h, t));
     }
 
     private static void line(LabelHouse house, int x, int y, int dx, int dy, int t) {
-        due(house, "^O" + x + "," + y + "^G" + dx + "," + dy + "," + t, 12, 11, (px, py) -> isNear(px - x, py - y, dx, dy, t));
+        due(house, "^O" + x + "," + y + "^G" + dx + "," + dy + "," + t, 12, 11, Figures.line(x, y, dx, dy, t));
     }
 
     private static void lines() {
@@ -237,17 +216,8 @@ public final class EdgeFigureTest {
         });
     }
 
-    private static boolean inEllipse(long u, long v, long w, long h) {
-        return u * h * u * h + v * w * v * w <= w * h * w * h;
-    }
-
     private static void ellipse(LabelHouse house, int x, int y, int w, int h, int t) {
-        due(house, "^O" + x + "," + y + "^I" + w + "," + h + "," + t, 12, 11, (px, py) -> {
-            long u = 2L * (px - x) - (w - 1);
-            long v = 2L * (py - y) - (h - 1);
-            boolean hole = w - 2 * t > 0 && h - 2 * t > 0 && inEllipse(u, v, w - 2 * t, h - 2 * t);
-            return inEllipse(u, v, w, h) && !hole;
-        });
+        due(house, "^O" + x + "," + y + "^I" + w + "," + h + "," + t, 12, 11, Figures.ellipse(x, y, w, h, t));
     }
 
     private static void ellipses() {

@@ -107,13 +107,16 @@ public final class EdgePlaceTest {
             CHECK.due("1 times 1", light(1, 1).scan(1, 16, 500), 0);
         });
         CHECK.test("places: a symbol that the sheet cuts off is none, though a larger sheet had it whole", () -> {
+            String[] quarters = {"^O20,20^Q1,0,0,0^Xa^;^E", "^O40,20^Q1,0,0,1^Xa^;^E", "^O40,40^Q1,0,0,2^Xa^;^E", "^O20,40^Q1,0,0,3^Xa^;^E"};
             for (String size : new String[] {"40,60", "60,40", "39,60", "60,39"}) {
-                LabelHouse house = new LabelHouse();
-                Houses.read(house, "^L60,60^O20,20^Q1,0,0^Xa^;^E^L" + size + "^O20,20^Q1,0,0^Xa^;^E");
-                house.print(0);
-                CHECK.due("scan(1, 1, 5)", house.scan(1, 1, 5), 1);
-                house.print(1);
-                CHECK.due("scan(1, 1, 5) of " + size, house.scan(1, 1, 5), 0);
+                for (String symbol : quarters) {
+                    LabelHouse house = new LabelHouse();
+                    Houses.read(house, "^L60,60" + symbol + "^L" + size + symbol);
+                    house.print(0);
+                    CHECK.due("scan(1, 1, 5)", house.scan(1, 1, 5), 1);
+                    house.print(1);
+                    CHECK.due("scan(1, 1, 5) of " + size, house.scan(1, 1, 5), 0);
+                }
             }
         });
         CHECK.test("places: versions are 1 .. 40, so one with the marks of a version 41 is none", () -> {
@@ -368,6 +371,11 @@ public final class EdgePlaceTest {
             CHECK.due("the small one has fewer", Places.told(within, 1, 2, 1), "44 48 1 1 0 0|");
             within.spoil(44, 48, 1);
             CHECK.due("as many again", Places.told(within, 1, 2, 1), "2 2 2 5 0 1|");
+            // a small one in the part of a large one of version 1 that has no marks
+            LabelHouse free = Houses.printed("^L63,63^Q3,0,0^Xa^;^O30,30^F21,21,11^;^R^O30,30^F21,21,11^;^O30,30^Q1,0,0^Xb^;^E");
+            CHECK.due("the large one comes first", Places.told(free, 1, 3, 0), "0 0 3 1 0 0|");
+            free.spoil(0, 0, 1);
+            CHECK.due("the small one has fewer", Places.told(free, 1, 3, 1), "30 30 1 1 0 0|");
         });
     }
 

@@ -55,6 +55,20 @@ final class Houses {
         }
     }
 
+    /** The data of a field in its copies, each behind a bar, lines with a / between them. */
+    static String counted(String kind, String data, int step, int copies) {
+        LabelHouse house = new LabelHouse();
+        read(house, "^L9,9^C" + copies + kind + "^X" + data + "^#" + step + "^;^E");
+        StringBuilder text = new StringBuilder();
+        for (int c = 0; c < copies; c++) {
+            text.append('|');
+            for (int i = 0; i < house.label(c, 3); i++) {
+                text.append(i == 0 ? "" : "/").append(data(house, house.label(c, 2) + i));
+            }
+        }
+        return text.toString();
+    }
+
     static boolean dark(LabelHouse house, int x, int y) {
         return (house.dots(x, y) & 1) != 0;
     }

@@ -147,33 +147,19 @@ public final class OrderTest {
         CHECK.end();
     }
 
-    /** The data of a field in its copies, each behind a bar. */
-    private static String counted(String kind, String data, int step, int copies) {
-        LabelHouse house = new LabelHouse();
-        Houses.read(house, "^L9,9^C" + copies + kind + "^X" + data + "^#" + step + "^;^E");
-        StringBuilder text = new StringBuilder();
-        for (int c = 0; c < copies; c++) {
-            text.append('|');
-            for (int i = 0; i < house.label(c, 3); i++) {
-                text.append(i == 0 ? "" : "/").append(Houses.data(house, house.label(c, 2) + i));
-            }
-        }
-        return text.toString();
-    }
-
     private static void copies() {
         CHECK.begin("promise 10: copies");
-        CHECK.due("up", counted("^T", "A0098", 1, 4), "|A0098|A0099|A0100|A0101");
-        CHECK.due("carried beyond", counted("^T", "A98", 1, 3), "|A98|A99|A00");
-        CHECK.due("down", counted("^T", "A01", -1, 4), "|A01|A00|A99|A98");
-        CHECK.due("far down", counted("^T", "5", -99, 3), "|5|6|7");
-        CHECK.due("by 0", counted("^T", "A7", 0, 2), "|A7|A7");
-        CHECK.due("nine digits", counted("^T", "1999999999", 1, 2), "|1999999999|1000000000");
-        CHECK.due("with text", counted("^B,,,1", "a9", 1, 2), "|a9/a9|a0/a0");
-        CHECK.due("in lines", counted("^W2", "x 0199", 1, 2), "|x/01/99|x/02/00");
-        CHECK.due("figures", counted("^N", "999999999999", 1, 2), "|999999999999|999000000000");
-        CHECK.due("a picture", counted("^P", "4A49", 1, 2), "|JI|JP");
-        CHECK.due("digits of a picture", counted("^P", "4F4a39", 2, 2), "|OJ9|OJA");
+        CHECK.due("up", Houses.counted("^T", "A0098", 1, 4), "|A0098|A0099|A0100|A0101");
+        CHECK.due("carried beyond", Houses.counted("^T", "A98", 1, 3), "|A98|A99|A00");
+        CHECK.due("down", Houses.counted("^T", "A01", -1, 4), "|A01|A00|A99|A98");
+        CHECK.due("far down", Houses.counted("^T", "5", -99, 3), "|5|6|7");
+        CHECK.due("by 0", Houses.counted("^T", "A7", 0, 2), "|A7|A7");
+        CHECK.due("nine digits", Houses.counted("^T", "1999999999", 1, 2), "|1999999999|1000000000");
+        CHECK.due("with text", Houses.counted("^B,,,1", "a9", 1, 2), "|a9/a9|a0/a0");
+        CHECK.due("in lines", Houses.counted("^W2", "x 0199", 1, 2), "|x/01/99|x/02/00");
+        CHECK.due("figures", Houses.counted("^N", "999999999999", 1, 2), "|999999999999|999000000000");
+        CHECK.due("a picture", Houses.counted("^P", "4A49", 1, 2), "|JI|JP");
+        CHECK.due("digits of a picture", Houses.counted("^P", "4F4a39", 2, 2), "|OJ9|OJA");
         LabelHouse house = new LabelHouse();
         Houses.read(house, "^L9,9^T^X1^;^C3^T^X2^#9^;^E");
         CHECK.due("label(2, 2)", house.label(2, 2), 4);

@@ -4,11 +4,6 @@ import java.util.Random;
 public final class SheetTest {
     private static final Check CHECK = new Check();
 
-    /** Whether a dot is one of a figure's. */
-    interface Figure {
-        boolean has(int x, int y);
-    }
-
     public static void main(String[] args) {
         font();
         cell();
@@ -145,7 +140,7 @@ public final class SheetTest {
     }
 
     /** Draws a field twice, the second time turned over, and compares all dots with a figure. */
-    private static void due(String field, int w, int h, Figure figure) {
+    private static void due(String field, int w, int h, Figures.Figure figure) {
         LabelHouse house = Houses.printed("^L" + w + "," + h + field + "^;^E");
         int dots = 0;
         boolean same = true;
@@ -161,27 +156,14 @@ public final class SheetTest {
         CHECK.due("turned over, " + field, over.told(6), Math.min(w * h, over.drawn(0)) - dots);
     }
 
-    private static boolean in(int value, int from, int to) {
-        return value >= from && value <= to;
-    }
-
     private static void frames() {
         CHECK.begin("promise 12: frames");
         int[][] cases = {{5, 6, 20, 15, 3}, {-4, -4, 30, 20, 5}, {0, 0, 9, 9, 4}, {0, 0, 9, 9, 5}, {0, 0, 8, 8, 4},
             {30, 3, 40, 2, 1}, {3, 3, 1, 1, 1}, {3, 3, 3, 3, 1}, {-100, 5, 2048, 9, 2}, {50, 50, 9, 9, 1}};
         for (int[] c : cases) {
-            int x = c[0];
-            int y = c[1];
-            int t = c[4];
-            due("^O" + x + "," + y + "^F" + c[2] + "," + c[3] + "," + t, 45, 40, (px, py) ->
-                in(px, x, x + c[2] - 1) && in(py, y, y + c[3] - 1)
-                && !(in(px, x + t, x + c[2] - 1 - t) && in(py, y + t, y + c[3] - 1 - t)));
+            due("^O" + c[0] + "," + c[1] + "^F" + c[2] + "," + c[3] + "," + c[4], 45, 40, Figures.frame(c[0], c[1], c[2], c[3], c[4]));
         }
         CHECK.end();
-    }
-
-    private static boolean inEllipse(long u, long v, long w, long h) {
-        return u * h * u * h + v * w * v * w <= w * h * w * h;
     }
 
     private static void ellipses() {
@@ -193,27 +175,9 @@ public final class SheetTest {
             int t = 1 + random.nextInt(i % 3 == 0 ? 200 : 8);
             int x = random.nextInt(30) - (w > 60 ? w / 2 : 10);
             int y = random.nextInt(30) - (h > 60 ? h / 2 : 10);
-            due("^O" + x + "," + y + "^I" + w + "," + h + "," + t, 64, 50, (px, py) -> {
-                long u = 2L * (px - x) - (w - 1);
-                long v = 2L * (py - y) - (h - 1);
-                boolean hole = w > 2 * t && h > 2 * t && inEllipse(u, v, w - 2 * t, h - 2 * t);
-                return inEllipse(u, v, w, h) && !hole;
-            });
+            due("^O" + x + "," + y + "^I" + w + "," + h + "," + t, 64, 50, Figures.ellipse(x, y, w, h, t));
         }
         CHECK.end();
-    }
-
-    private static boolean isNear(long px, long py, long dx, long dy, long t) {
-        long along = px * dx + py * dy;
-        long whole = dx * dx + dy * dy;
-        if (along <= 0) {
-            return 4 * (px * px + py * py) <= t * t;
-        }
-        if (along >= whole) {
-            return isNear(px - dx, py - dy, 0, 0, t);
-        }
-        long across = px * dy - py * dx;
-        return 4 * across * across <= t * t * whole;
     }
 
     private static void lines() {
@@ -226,8 +190,7 @@ public final class SheetTest {
             int t = 1 + random.nextInt(i % 3 == 0 ? 200 : 6);
             int x = random.nextInt(40) - (i % 6 == 0 ? dx / 2 : 5);
             int y = random.nextInt(40) - (i % 6 == 0 ? dy / 2 : 5);
-            due("^O" + x + "," + y + "^G" + dx + "," + dy + "," + t, 50, 45,
-                (px, py) -> isNear(px - x, py - y, dx, dy, t));
+            due("^O" + x + "," + y + "^G" + dx + "," + dy + "," + t, 50, 45, Figures.line(x, y, dx, dy, t));
         }
         CHECK.due("a thin line", Houses.sheet(Houses.printed("^L5,3^G4,2,1^;^E")), "##... .###. ...##");
         CHECK.due("of 2", Houses.sheet(Houses.printed("^L5,3^O1,1^G2,0,2^;^E")), ".###. ##### .###.");
