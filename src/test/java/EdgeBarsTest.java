@@ -4,8 +4,6 @@ import java.util.List;
 
 /** Codes of bars, promises 12 and 22 to 24, sentence by sentence: rows, thirteen figures, and the strips that are read. */
 public final class EdgeBarsTest {
-    private static final String[] FIGURES = "3211 2221 2122 1411 1132 1231 1114 1312 1213 3112".split(" ");
-    private static final String[] FIRSTS = "000000 001011 001101 001110 010011 011001 011100 010101 010110 011010".split(" ");
     private static final Check CHECK = new Check();
     private static final int NONE = LabelHouse.NONE;
     private static final int LEAST = Integer.MIN_VALUE;
@@ -24,10 +22,6 @@ public final class EdgeBarsTest {
         reading();
         got();
         CHECK.exit();
-    }
-
-    private static String turned(String pattern) {
-        return new StringBuilder(pattern).reverse().toString();
     }
 
     /** What bars() reads of a strip: its signs, or nothing. */
@@ -176,29 +170,6 @@ public final class EdgeBarsTest {
         });
     }
 
-    /** The widths of thirteen figures, by the first twelve. */
-    private static String figureRow(String twelve) {
-        int sum = 0;
-        for (int i = 0; i < 12; i++) {
-            sum += (twelve.charAt(i) - '0') * (i % 2 == 0 ? 1 : 3);
-        }
-        return figureRow(twelve, (10 - sum % 10) % 10);
-    }
-
-    private static String figureRow(String twelve, int check) {
-        String turns = FIRSTS[twelve.charAt(0) - '0'];
-        StringBuilder text = new StringBuilder("111");
-        for (int i = 1; i < 7; i++) {
-            String figure = FIGURES[twelve.charAt(i) - '0'];
-            text.append(turns.charAt(i - 1) == '1' ? turned(figure) : figure);
-        }
-        text.append("11111");
-        for (int i = 7; i < 12; i++) {
-            text.append(FIGURES[twelve.charAt(i) - '0']);
-        }
-        return text + FIGURES[check] + "111";
-    }
-
     private static void figures() {
         CHECK.test("thirteen figures: each first figure, and each figure at each place", () -> {
             for (int first = 0; first < 10; first++) {
@@ -207,7 +178,7 @@ public final class EdgeBarsTest {
                     twelve.append((first + i) % 10);
                 }
                 LabelHouse house = Houses.printed("^L512,1^N2,1^X" + twelve + "^;^E");
-                int[] due = Strips.widths(figureRow(twelve.toString()), 2);
+                int[] due = Strips.widths(Strips.figureRow(twelve.toString()), 2);
                 for (int i = 0; i < 59; i++) {
                     CHECK.due("width " + i + " of " + twelve, house.run(0, 0, i, false), due[i]);
                 }
@@ -368,14 +339,14 @@ public final class EdgeBarsTest {
         String twelve = "590123412345";
         CHECK.test("promise 22: 59 widths of thirteen figures", () -> {
             for (int module = 1; module <= 5; module++) {
-                due("module " + module, Strips.widths(figureRow(twelve), module), "2 front: 5901234123457");
-                due("from the back, module " + module, Strips.widths(turned(figureRow(twelve)), module), "2 back: 5901234123457");
+                due("module " + module, Strips.widths(Strips.figureRow(twelve), module), "2 front: 5901234123457");
+                due("from the back, module " + module, Strips.widths(Strips.turned(Strips.figureRow(twelve)), module), "2 back: 5901234123457");
             }
         });
         CHECK.test("promise 22: the first three, the five in the middle and the last three all count as 1, with all widths", () -> {
             for (int i = 0; i < 59; i++) {
                 boolean guard = i < 3 || (i >= 27 && i < 32) || i >= 56;
-                int[] strip = Strips.widths(figureRow(twelve), 4);
+                int[] strip = Strips.widths(Strips.figureRow(twelve), 4);
                 // of about 383 dots in all one module and a half are 6.05
                 strip[i] = guard ? 6 : strip[i];
                 due("a guard of 6 dots, " + i, strip, "2 front: 5901234123457");
@@ -389,7 +360,7 @@ public final class EdgeBarsTest {
             }
         });
         CHECK.test("promise 22: the four widths of a figure count with these four, and 7 modules", () -> {
-            int[] strip = Strips.widths(figureRow(twelve), 4);
+            int[] strip = Strips.widths(Strips.figureRow(twelve), 4);
             // the last figure but the check figure is 5, 1231, of 28 dots: 10 is two and a half, 6 one and a half
             int at = 32 + 4 * 4;
             System.arraycopy(new int[] {4, 8, 11, 5}, 0, strip, at, 4);
@@ -407,9 +378,9 @@ public final class EdgeBarsTest {
         });
         CHECK.test("promise 22: the last six are not turned", () -> {
             for (int i = 0; i < 6; i++) {
-                String row = figureRow(twelve);
+                String row = Strips.figureRow(twelve);
                 int at = 32 + 4 * i;
-                String other = row.substring(0, at) + turned(row.substring(at, at + 4)) + row.substring(at + 4);
+                String other = row.substring(0, at) + Strips.turned(row.substring(at, at + 4)) + row.substring(at + 4);
                 due("figure " + (8 + i), Strips.widths(other, 2), "NONE");
             }
         });
@@ -421,26 +392,26 @@ public final class EdgeBarsTest {
                 for (int i = 1; i < 7; i++) {
                     boolean isTurned = (turns >> (6 - i) & 1) != 0;
                     which.append(isTurned ? '1' : '0');
-                    row.append(isTurned ? turned(FIGURES[i]) : FIGURES[i]);
+                    row.append(isTurned ? Strips.turned(Strips.FIGURES[i]) : Strips.FIGURES[i]);
                     sum += i * (i % 2 == 0 ? 1 : 3);
                 }
-                int first = Arrays.asList(FIRSTS).indexOf(which.toString());
+                int first = Arrays.asList(Strips.FIRSTS).indexOf(which.toString());
                 int right = (20 - (sum + first) % 10) % 10;
-                row.append("11111").append(FIGURES[0].repeat(5));
+                row.append("11111").append(Strips.FIGURES[0].repeat(5));
                 // without a first figure no check figure is right
                 for (int check = 0; check < 10; check++) {
                     String want = first < 0 || check != right ? "NONE" : "2 front: " + first + "12345600000" + check;
-                    due("turned " + which, Strips.widths(row + FIGURES[check] + "111", 1), want);
+                    due("turned " + which, Strips.widths(row + Strips.FIGURES[check] + "111", 1), want);
                 }
             }
         });
         CHECK.test("promise 22: the check figure must be right", () -> {
             for (int check = 0; check < 10; check++) {
-                due("check figure " + check, Strips.widths(figureRow(twelve, check), 1), check == 7 ? "2 front: 5901234123457" : "NONE");
+                due("check figure " + check, Strips.widths(Strips.figureRow(twelve, check), 1), check == 7 ? "2 front: 5901234123457" : "NONE");
             }
         });
         CHECK.test("promise 22: 57 and 61 widths are not of thirteen figures", () -> {
-            int[] all = Strips.widths(figureRow(twelve), 2);
+            int[] all = Strips.widths(Strips.figureRow(twelve), 2);
             due("57", Arrays.copyOf(all, 57), "NONE");
             int[] more = Arrays.copyOf(all, 61);
             more[59] = 2;
@@ -468,12 +439,12 @@ public final class EdgeBarsTest {
                 symbols[0] = 105;
                 String want = "99".repeat(count);
                 due(2 * count + " signs", Strips.widths(Strips.row(symbols), 1), "1 front: " + want);
-                due(2 * count + " signs from the back", Strips.widths(turned(Strips.row(symbols)), 1), "1 back: " + want);
+                due(2 * count + " signs from the back", Strips.widths(Strips.turned(Strips.row(symbols)), 1), "1 back: " + want);
             }
         });
         CHECK.test("promise 22: from the back as if it were the other way round", () -> {
-            due("a row", Strips.widths(turned(Strips.row(104, 33, 98, 65, 99, 12)), 2), "1 back: A\00112");
-            due("a short row", Strips.widths(turned(Strips.row(103)), 2), "1 back: ");
+            due("a row", Strips.widths(Strips.turned(Strips.row(104, 33, 98, 65, 99, 12)), 2), "1 back: A\00112");
+            due("a short row", Strips.widths(Strips.turned(Strips.row(103)), 2), "1 back: ");
         });
         CHECK.test("promise 22: neither from the front nor from the back", () -> {
             due("a bar alone", new int[] {9}, "NONE");
@@ -588,7 +559,7 @@ public final class EdgeBarsTest {
 
     private static void reading() {
         CHECK.test("promise 23: of a row 1, of thirteen figures 2, NONE for what a symbol has, and the way", () -> {
-            String[] rows = {Strips.row(104, 33), turned(Strips.row(104, 33)), figureRow("590123412345"), turned(figureRow("590123412345"))};
+            String[] rows = {Strips.row(104, 33), Strips.turned(Strips.row(104, 33)), Strips.figureRow("590123412345"), Strips.turned(Strips.figureRow("590123412345"))};
             for (int i = 0; i < 4; i++) {
                 LabelHouse house = Strips.house(0, Strips.widths(rows[i], 1));
                 house.bars(0, 0, false);
@@ -640,7 +611,7 @@ public final class EdgeBarsTest {
 
     private static void got() {
         CHECK.test("promise 24: eight signs of bars from i on, 0 for each that they have not", () -> {
-            LabelHouse house = Strips.house(0, Strips.widths(figureRow("123456789012"), 1));
+            LabelHouse house = Strips.house(0, Strips.widths(Strips.figureRow("123456789012"), 1));
             CHECK.due("got(0) before", house.got(0), 0);
             house.bars(0, 0, false);
             CHECK.due("got(0)", house.got(0), 0x3837_3635_3433_3231L);

@@ -7,12 +7,13 @@ import java.util.TreeSet;
 
 /** The public face, a new object, and that calls make nothing. */
 public final class FaceTest {
+    /** The methods, with the exceptions that they tell of behind them: A for the argument, I for the index. */
     private static final String[] FACE = {
-        "int bars(int,int,boolean)", "int decode(int)", "int drawn(int)", "int fault()", "int feed(int,long)",
-        "int found(int,int)", "int label(int,int)", "int order(int,int)", "int place()", "int print(int)",
-        "int read()", "int reading(int)", "int run(int,int,int,boolean)", "int scan(int,int,int)",
-        "int spoil(int,int,long)", "int told(int)", "int wipe()", "long data(int,int)", "long dots(int,int)",
-        "long got(int)", "void cell(int,int,int,int)", "void font(int,int,int,int)", "void turn(int)"};
+        "int bars(int,int,boolean) I", "int decode(int) I", "int drawn(int)", "int fault()", "int feed(int,long) A",
+        "int found(int,int) A", "int label(int,int) A", "int order(int,int) AI", "int place()", "int print(int) I",
+        "int read()", "int reading(int) A", "int run(int,int,int,boolean) I", "int scan(int,int,int) A",
+        "int spoil(int,int,long)", "int told(int) A", "int wipe()", "long data(int,int) I", "long dots(int,int)",
+        "long got(int)", "void cell(int,int,int,int) AI", "void font(int,int,int,int) A", "void turn(int) A"};
 
     private static long sink;
 
@@ -21,6 +22,7 @@ public final class FaceTest {
         face(check);
         newObject(check);
         makesNothing(check);
+        example(check);
         check.exit();
     }
 
@@ -37,18 +39,30 @@ public final class FaceTest {
             for (int i = 0; i < method.getParameterCount(); i++) {
                 text.append(i == 0 ? "" : ",").append(method.getParameterTypes()[i]);
             }
-            seen.add(text + ")");
+            seen.add(text + ")" + thrown(method));
         }
         check.due("methods", seen.toString(), new TreeSet<>(Set.of(FACE)).toString());
         for (Field field : LabelHouse.class.getDeclaredFields()) {
             boolean isNone = field.getName().equals("NONE");
-            check.isTrue(field + " is private, or NONE", isNone || Modifier.isPrivate(field.getModifiers()));
+            int due = Modifier.PUBLIC | Modifier.STATIC | Modifier.FINAL;
+            check.isTrue(field + " is private, or NONE", isNone ? field.getModifiers() == due : Modifier.isPrivate(field.getModifiers()));
         }
         Constructor<?>[] constructors = LabelHouse.class.getDeclaredConstructors();
         check.due("constructors", constructors.length, 1);
-        check.isTrue("the class is final", Modifier.isFinal(LabelHouse.class.getModifiers()));
+        check.isTrue("the constructor is public", constructors[0].getModifiers() == Modifier.PUBLIC);
+        check.due("what it takes and throws", constructors[0].getParameterCount() + constructors[0].getExceptionTypes().length, 0);
+        check.due("the class is public and final", LabelHouse.class.getModifiers(), Modifier.PUBLIC | Modifier.FINAL);
         check.due("NONE", LabelHouse.NONE, -1);
         check.end();
+    }
+
+    private static String thrown(Method method) {
+        StringBuilder text = new StringBuilder();
+        for (Class<?> each : method.getExceptionTypes()) {
+            text.append(text.length() == 0 ? " " : "");
+            text.append(each == IllegalArgumentException.class ? "A" : each == IndexOutOfBoundsException.class ? "I" : each.getName());
+        }
+        return text.toString();
     }
 
     private static void newObject(Check check) {
@@ -136,6 +150,25 @@ public final class FaceTest {
         }
         check.due("bytes that all calls made", least, 0);
         check.isTrue("something was answered", sink != 0);
+        check.end();
+    }
+
+    /** What README.md shows. */
+    private static void example(Check check) {
+        check.begin("README: the example");
+        LabelHouse house = new LabelHouse();
+        byte[] text = "^L200,100^O10,10^Q3,2^Xhello^;^O100,10^B1,40^XAB12^;^E".getBytes();
+        for (byte each : text) {
+            house.feed(1, each);
+        }
+        check.due("read()", house.read(), 1);
+        check.due("fault()", house.fault(), 0);
+        check.due("print(0)", house.print(0), 2);
+        check.due("scan(1, 4, 0)", house.scan(1, 4, 0), 1);
+        check.due("decode(0)", house.decode(0), 5);
+        check.due("got(0)", house.got(0), 0x6F_6C6C_6568L);
+        check.due("bars(100, 10, false)", house.bars(100, 10, false), 4);
+        check.due("its signs", house.got(0), 0x3231_4241L);
         check.end();
     }
 }

@@ -7,6 +7,7 @@ import java.nio.file.Path;
 import java.util.List;
 import java.util.Set;
 import java.util.TreeSet;
+import java.util.regex.Matcher;
 import java.util.regex.Pattern;
 
 /** Rules of ../shared/LANGUAGE.md that can be seen from the file or from its classes. */
@@ -15,9 +16,15 @@ public final class LanguageTest {
     private static final String[] WORDS = {"synchronized", "assert", "finally", "try", "catch", "lambda", "instanceof",
         "volatile", "float", "double", "System.out", "Math.random", "nanoTime", "currentTimeMillis", "package"};
 
+    private static final Set<String> LIBRARY = Set.of("Math.min", "Math.max", "Math.abs", "Math.floorDiv", "Math.floorMod",
+        "Integer.bitCount", "Long.bitCount", "Arrays.fill", "System.arraycopy");
+    private static final Set<String> THROWN = Set.of("IllegalArgumentException", "IndexOutOfBoundsException");
+
     public static void main(String[] args) throws IOException {
         Check check = new Check();
         words(check);
+        calls(check);
+        methods(check);
         classes(check);
         check.exit();
     }
@@ -36,6 +43,49 @@ public final class LanguageTest {
             check.isTrue(where + "a static block", !line.matches("\\s*static\\s*\\{.*"));
             check.isTrue(where + "characters", line.chars().allMatch(c -> c < 128));
         }
+        check.end();
+    }
+
+    /** Rules 4 and 6: what is called of the library, what is thrown and what is made. */
+    private static void calls(Check check) throws IOException {
+        check.begin("the language: the library, what is thrown and what is made");
+        Pattern library = Pattern.compile("\\b(Math|Integer|Long|Arrays|System|String|Object|Character)\\.(\\w+)");
+        Pattern made = Pattern.compile("\\bnew (\\w+)([\\[(]?)");
+        List<String> lines = Files.readAllLines(FILE);
+        for (int i = 0; i < lines.size(); i++) {
+            String where = "line " + (i + 1) + ": ";
+            Matcher call = library.matcher(lines.get(i));
+            while (call.find()) {
+                check.isTrue(where + call.group(), LIBRARY.contains(call.group()));
+            }
+            Matcher object = made.matcher(lines.get(i));
+            while (object.find()) {
+                boolean thrown = lines.get(i).contains("throw new " + object.group(1) + "();");
+                boolean kept = !THROWN.contains(object.group(1)) && lines.get(i).contains(" = new ");
+                check.isTrue(where + object.group(), thrown ? THROWN.contains(object.group(1)) : kept);
+            }
+        }
+        check.end();
+    }
+
+    /** Rule 11: methods stay short. Each begins with its head and ends with a brace that stands as far to the right. */
+    private static void methods(Check check) throws IOException {
+        check.begin("the language: methods are short");
+        Pattern head = Pattern.compile("((?: {4}){1,2})[\\w\\[\\]<> ]+\\(.*\\{");
+        List<String> lines = Files.readAllLines(FILE);
+        int count = 0;
+        for (int i = 0; i < lines.size(); i++) {
+            Matcher method = head.matcher(lines.get(i));
+            if (method.matches() && !lines.get(i).contains(" new ")) {
+                int end = i;
+                while (!lines.get(end).equals(method.group(1) + "}")) {
+                    end++;
+                }
+                check.isTrue("line " + (i + 1) + ": at most sixty lines, not " + (end - i + 1), end - i + 1 <= 60);
+                count++;
+            }
+        }
+        check.isTrue("methods are seen", count > 100);
         check.end();
     }
 
