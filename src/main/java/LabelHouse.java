@@ -2628,7 +2628,7 @@ public final class LabelHouse {
         private final long[] keys = new long[PLACES_MOST];
         private final int[] wrongs = new int[PLACES_MOST];
         private final boolean[] leads = new boolean[PLACES_MOST];
-        /** The wrong dots of the four corners of a place. */
+        /** The wrong dots of the four corners of a place, with those along their inner edges. */
         private final int[] corners = new int[4];
         private int places;
         private int m;
@@ -2646,8 +2646,7 @@ public final class LabelHouse {
             int room = Math.min(sheet.width, sheet.height);
             int dark = sums[sheet.height * SUMS + sheet.width];
             for (m = least; m <= most && 21 * m <= room; m++) {
-                // the corners of a symbol alone have 99 dark blocks
-                if (dark + limit >= 99 * m * m) {
+                if (dark + limit >= darkMarks(1) * m * m) {
                     lookAtCorners();
                     if (!lookAtAll(room)) {
                         return NONE;
@@ -2698,26 +2697,55 @@ public final class LabelHouse {
             return 33 * m * m - whole + 2 * middle - 2 * core;
         }
 
+        /** How many marks of a version are dark. */
+        private static int darkMarks(int v) {
+            return 102 + 4 * v;
+        }
+
+        private static int lightMarks(int v) {
+            return 93 + 4 * v;
+        }
+
         /** Looks from each corner with few wrong dots; false when there are too many places. */
         private boolean lookAtAll(int room) {
             for (int y = 0; y + 7 * m <= sheet.height; y++) {
                 for (int x = 0; x + 7 * m <= sheet.width; x++) {
-                    // of the three corners of a place one has no more than a third of its wrong dots
-                    if (cornerWrong[y * Sheet.MOST + x] <= limit / 3 && !lookFrom(x, y, room)) {
-                        return false;
+                    for (int c = 0; c < 4 && leadsOn(cornerWrong[y * Sheet.MOST + x]); c++) {
+                        if (hasEdges(x, y, c) && leadsOn(edgedWrong(x, y, c)) && !lookFrom(x, y, c, room)) {
+                            return false;
+                        }
                     }
                 }
             }
             return true;
         }
 
-        private boolean lookFrom(int cornerX, int cornerY, int room) {
+        /** Whether it is worth to look from such a corner: one of a place's three has a third of its wrong dots or less. */
+        private boolean leadsOn(int wrong) {
+            return wrong <= limit / 3;
+        }
+
+        /** Whether the light blocks along the inner edges of corner c lie on the sheet. */
+        private boolean hasEdges(int x, int y, int c) {
+            int left = x - m * RIGHT[c];
+            int top = y - m * DOWN[c];
+            return left >= 0 && top >= 0 && left + 8 * m <= sheet.width && top + 8 * m <= sheet.height;
+        }
+
+        /** The wrong dots of corner c with those along its inner edges. */
+        private int edgedWrong(int x, int y, int c) {
+            int wrong = cornerWrong[y * Sheet.MOST + x];
+            if (wrong > limit) {
+                return wrong;
+            }
+            return wrong + darkIn(x - m * RIGHT[c], y - m * DOWN[c], 8 * m) - darkIn(x, y, 7 * m);
+        }
+
+        private boolean lookFrom(int cornerX, int cornerY, int c, int room) {
             for (int v = 1; v <= 40 && (17 + 4 * v) * m <= room; v++) {
                 int far = (10 + 4 * v) * m;
-                for (int c = 0; c < 4; c++) {
-                    if (!lookAt(cornerX - far * RIGHT[c], cornerY - far * DOWN[c], v, c)) {
-                        return false;
-                    }
+                if (!lookAt(cornerX - far * RIGHT[c], cornerY - far * DOWN[c], v, c)) {
+                    return false;
                 }
             }
             return true;
@@ -2726,15 +2754,15 @@ public final class LabelHouse {
         /** Looks at the places there, unless they were seen from a corner before c. */
         private boolean lookAt(int x, int y, int v, int c) {
             int side = 17 + 4 * v;
-            if (x < 0 || y < 0 || x + side * m > sheet.width || y + side * m > sheet.height) {
+            if (x < 0 || y < 0 || x + side * m > sheet.width || y + side * m > sheet.height || !hasShades(x, y, v)) {
                 return true;
             }
             int far = (side - 7) * m;
             int sum = 0;
             for (int i = 0; i < 4; i++) {
-                corners[i] = cornerWrong[(y + far * DOWN[i]) * Sheet.MOST + x + far * RIGHT[i]];
+                corners[i] = edgedWrong(x + far * RIGHT[i], y + far * DOWN[i], i);
                 sum += corners[i];
-                if (i < c && corners[i] <= limit / 3) {
+                if (i < c && leadsOn(corners[i])) {
                     return true;
                 }
             }
@@ -2750,6 +2778,13 @@ public final class LabelHouse {
             return true;
         }
 
+        /** Whether there are as many dark and light dots as marks need; it spares plain paper the rest. */
+        private boolean hasShades(int x, int y, int v) {
+            int side = (17 + 4 * v) * m;
+            int dark = darkIn(x, y, side);
+            return dark + limit >= darkMarks(v) * m * m && side * side - dark + limit >= lightMarks(v) * m * m;
+        }
+
         /** Adds the other wrong dots of a place to those of its corners, no further than beyond the limit. */
         private int wrongAt(int x, int y, int side, int q, int ofCorners) {
             int far = (side - 7) * m;
@@ -2759,14 +2794,6 @@ public final class LabelHouse {
             for (int i = 8; i <= side - 9 && wrong <= limit; i++) {
                 int dark = darkIn(x + i * m, row, m) + darkIn(column, y + i * m, m);
                 wrong += i % 2 == 0 ? 2 * m * m - dark : dark;
-            }
-            for (int c = 0; c < 4 && wrong <= limit; c++) {
-                if (c != 3 - q) {
-                    int cornerX = x + far * RIGHT[c];
-                    int cornerY = y + far * DOWN[c];
-                    // the light blocks along the inner edges
-                    wrong += darkIn(cornerX - m * RIGHT[c], cornerY - m * DOWN[c], 8 * m) - darkIn(cornerX, cornerY, 7 * m);
-                }
             }
             return wrong;
         }

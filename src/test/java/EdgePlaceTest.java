@@ -1,3 +1,6 @@
+import java.util.ArrayList;
+import java.util.Arrays;
+import java.util.Collections;
 import java.util.List;
 import java.util.Random;
 
@@ -127,17 +130,7 @@ public final class EdgePlaceTest {
                 for (int[] mark : Places.marks(version)) {
                     dark[mark[1]][mark[0]] = mark[2] == 1;
                 }
-                for (int y = 0; y < side; y++) {
-                    for (int x = 0; x < side; x += 64) {
-                        long bits = 0;
-                        for (int i = 0; i < 64 && x + i < side; i++) {
-                            bits |= dark[y][x + i] ? 1L << i : 0;
-                        }
-                        if (bits != 0) {
-                            house.spoil(x, y, bits);
-                        }
-                    }
-                }
+                spoil(house, dark);
                 CHECK.due("version " + version, Places.told(house, 1, 1, 0), version == 40 ? "0 0 1 40 0 0|" : "");
             }
         });
@@ -232,6 +225,8 @@ public final class EdgePlaceTest {
                 due("limit " + limit, house, 1, 1, limit);
             }
         });
+        CHECK.test("places: marks alone on light paper, of the dark ones as many wrong dots as the limit", () -> plainPaper(false));
+        CHECK.test("places: marks alone on dark paper, of the light ones as many wrong dots as the limit", () -> plainPaper(true));
         CHECK.test("places: wrong dots all in one corner, in two, or in none of them", () -> {
             int[][] corners = {{0, 0}, {14, 0}, {14, 14}, {0, 14}};
             for (int quarter = 0; quarter < 4; quarter++) {
@@ -251,6 +246,58 @@ public final class EdgePlaceTest {
                 }
             }
         });
+    }
+
+    private static void plainPaper(boolean paper) {
+        Random random = new Random(paper ? 35 : 36);
+        for (int[] size : new int[][] {{1, 1}, {1, 2}, {1, 3}, {2, 1}, {2, 2}, {3, 1}, {7, 1}, {20, 1}}) {
+            for (int q = 0; q < 4; q++) {
+                for (int wrong : new int[] {1, 2, 3, 29, 30, 31, 60}) {
+                    LabelHouse house = marksAlone(size[0], size[1], q, paper, wrong, random);
+                    String due = "0 0 " + size[1] + " " + size[0] + " " + q + " " + wrong + "|";
+                    CHECK.due("limit " + wrong + " of " + due, Places.told(house, size[1], size[1], wrong), due);
+                    CHECK.due("one less than " + due, house.scan(size[1], size[1], wrong - 1), 0);
+                }
+            }
+        }
+    }
+
+    /** The marks of a version on paper of one shade, some dots of those of the other shade turned over. */
+    private static LabelHouse marksAlone(int v, int m, int q, boolean paper, int wrong, Random random) {
+        int side = (17 + 4 * v) * m;
+        boolean[][] dark = new boolean[side][side];
+        for (boolean[] row : dark) {
+            Arrays.fill(row, paper);
+        }
+        List<int[]> dots = new ArrayList<>();
+        for (int[] mark : Places.marks(v)) {
+            int[] block = Places.block(mark[0], mark[1], 17 + 4 * v, q);
+            for (int i = 0; i < m * m && (mark[2] == 1) != paper; i++) {
+                dots.add(new int[] {m * block[0] + i % m, m * block[1] + i / m});
+            }
+        }
+        Collections.shuffle(dots, random);
+        for (int[] dot : dots.subList(wrong, dots.size())) {
+            dark[dot[1]][dot[0]] = !paper;
+        }
+        LabelHouse house = light(side, side);
+        spoil(house, dark);
+        return house;
+    }
+
+    /** Makes the dots dark of a sheet that is light. */
+    private static void spoil(LabelHouse house, boolean[][] dark) {
+        for (int y = 0; y < dark.length; y++) {
+            for (int x = 0; x < dark[y].length; x += 64) {
+                long bits = 0;
+                for (int i = 0; i < 64 && x + i < dark[y].length; i++) {
+                    bits |= dark[y][x + i] ? 1L << i : 0;
+                }
+                if (bits != 0) {
+                    house.spoil(x, y, bits);
+                }
+            }
+        }
     }
 
     private static void manyPlaces() {
